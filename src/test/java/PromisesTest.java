@@ -1,0 +1,708 @@
+/** Each promise of the document by hand: ordinary inputs, the edges that it names, and wrong inputs. */
+public final class PromisesTest {
+    private static final int NONE = -1, BAD = -2, FULL = -3, STATE = -4;
+    private static final int LOW = Integer.MIN_VALUE, HIGH = Integer.MAX_VALUE;
+    /** Relations: p 0, e 1, u 2, v 3, n 4. */
+    private static final String PATHS =
+        "p(X,Y):-e(X,Y). p(X,Y):-p(X,Z),e(Z,Y). u(X):-v(X),~p(1,X). n(X,#):-p(X,Y).";
+    private static final Check CHECK = new Check();
+
+    private static void same(String call, long got, long due) {
+        CHECK.same(call, got, due);
+    }
+
+    private static ViewRounds made(String text) {
+        ViewRounds x = new ViewRounds();
+        CHECK.holds("rules: " + text, Check.parse(x, text) > 0);
+        return x;
+    }
+
+    private static void parses(String text, int due) {
+        ViewRounds x = new ViewRounds();
+        same("parse of " + text, Check.parse(x, text), due);
+        same("place of " + text, x.place(), NONE);
+    }
+
+    /** A text with a mark before the byte where the fault is due. */
+    private static void faults(int fault, String marked) {
+        int place = marked.indexOf('^');
+        String text = marked.substring(0, place) + marked.substring(place + 1);
+        ViewRounds x = new ViewRounds();
+        same("parse of " + marked, Check.parse(x, text), -10 - fault);
+        same("place of " + marked, x.place(), place);
+        same("rules after " + marked, x.told(0), 0);
+    }
+
+    private static void rows(ViewRounds x, int relation, int... firsts) {
+        same("rows of " + relation, x.of(relation, 3), firsts.length);
+        for (int i = 0; i < firsts.length; i++) {
+            same("row " + i + " of " + relation, x.row(relation, i, 0), firsts[i]);
+        }
+    }
+
+    private static void add(ViewRounds x, int table, int a, int b, int c) {
+        CHECK.holds("a change is taken", x.change(table, a, b, c, 1) > 0);
+    }
+
+    private static void isDifference(ViewRounds x, int k, int view, int a, int b, int c, int sign) {
+        int[] due = {view, a, b, c, sign};
+        for (int what = 0; what < 5; what++) {
+            same("difference(" + k + ", " + what + ")", x.difference(k, what), due[what]);
+        }
+    }
+
+    private static void asksWithoutRules(ViewRounds x) {
+        for (int what = 0; what < 6; what++) {
+            same("told(" + what + ") without rules", x.told(what), 0);
+        }
+        same("relation", x.relation('a'), STATE);
+        same("of", x.of(99, 99), STATE);
+        same("change", x.change(-1, -1, -1, -1, 7), STATE);
+        same("batch", x.batch(), STATE);
+        same("drop", x.drop(), STATE);
+        same("difference", x.difference(-1, 9), STATE);
+        same("undo", x.undo(), STATE);
+        same("has", x.has(-1, -1, 0, 0), STATE);
+        same("row", x.row(-1, -1, -1), STATE);
+        same("derivations", x.derivations(-1, -1, 0, 0), STATE);
+        same("why", x.why(-1, -1, 0, 0, -1), STATE);
+        same("anew", x.anew() ? 1 : 0, 0);
+    }
+
+    private static void promise1() {
+        ViewRounds x = new ViewRounds();
+        asksWithoutRules(x);
+        same("place", x.place(), NONE);
+        same("ring", x.ring(0), NONE);
+        same("feed", x.feed('a', 1), 1);
+        same("NONE", ViewRounds.NONE, -1);
+        same("BAD", ViewRounds.BAD, -2);
+        same("FULL", ViewRounds.FULL, -3);
+        same("STATE", ViewRounds.STATE, -4);
+    }
+
+    private static void promise2() {
+        ViewRounds x = new ViewRounds();
+        int[] wrong = {0, 9, -1, LOW, HIGH};
+        for (int n : wrong) {
+            same("feed(1, " + n + ")", x.feed(1, n), BAD);
+        }
+        // bytes beyond the n lowest are not read, and the lowest comes first
+        same("feed a(1)", x.feed(0x7f7f7f7f00000000L | 'a' | '(' << 8 | '1' << 16 | ')' << 24, 4), 4);
+        same("feed .", x.feed(-1L << 8 | '.', 1), 5);
+        same("parse", x.parse(), 1);
+        same("relation", x.relation('a'), 0);
+        same("has", x.has(0, 1, 0, 0), 1);
+        for (int i = 1; i <= 74; i++) {
+            same("feed", x.feed(0x2020202020202020L, 8), 8 * i);
+        }
+        same("feed to 599", x.feed(0x20202020202020L, 7), 599);
+        same("feed beyond 600", x.feed(0x2020, 2), FULL);
+        same("BAD comes before FULL", x.feed(0x2020, 9), BAD);
+        same("feed to 600", x.feed(' ', 1), 600);
+        same("feed to 601", x.feed(' ', 1), FULL);
+        same("parse of blanks", x.parse(), 0);
+        same("the text is empty then", x.feed(-1L, 8), 8);
+        same("parse of bytes 255", x.parse(), -11);
+        same("place", x.place(), 0);
+    }
+
+    private static void promise3() {
+        parses("", 0);
+        parses(" \n ", 0);
+        parses("c(5).", 1);
+        parses("c ( 5 ) .\nd(X): -c(X) , X\n< 7,~ c ( 0\n) .", 2);
+        parses("a(0,00,000). a(999,1,12).", 2);
+        parses("a(#):-1<2.", 1);
+        parses("a(X,#):-b(X),c(X),d(X),~e(X),X!3.", 1);
+        parses("a(1):-b(A,B,C),b(D,E,F),b(A,B,C),A<B,~b(F,E,D).", 1);
+        parses("a(1).".repeat(16), 16);
+        parses("a(X):-b(X),c(X),d(X).e(X):-f(X),g(X),h(X).", 2);
+        wrongSigns();
+        otherFaults();
+        parsesInPlaceOfOthers();
+        parsesThatAreFull();
+    }
+
+    private static void wrongSigns() {
+        String[] texts = {"^A(1).", "^(", "^1.", "a^", "a^.", "a(^", "a(^).", "a(^,1).", "a(^b).", "a(1^", "a(1^.", "a(1 ^", "a(1,^).",
+            "a(1,2,3^,4).", "a(1^#).", "a(#^,1):-b(1).", "a(#^#):-b(1).", "a(1 ^2).", "a(1\n^2).", "a(123^4).", "a(X^Y).", "a(X^1).",
+            "a(1)^", "a(1)^,", "a(1):^", "a(1):^b(1).", "a(1):-^", "a(1):-^.", "a(1):-^#", "a(1):-~^~b(1).", "a(1):-~^X<1.",
+            "a(1):-b(1)^", "a(1):-b(1)^:", "a(1):-b(1),^.", "a(1):-b(1),^,", "a(1):-b(^#).", "a(1):-1^.", "a(1):-1^>2.", "a(1):-1<^",
+            "a(1):-1<^b(1).", "a(1):-1<2^<3.", "a(1):-b(X),X<100^0.", "a(1).^.", "a(1).^\t", "a(1). ^~b(1).", "^\u00e1(1)."};
+        for (String text : texts) {
+            faults(1, text);
+        }
+    }
+
+    private static void otherFaults() {
+        faults(2, "a(1). a(1,2^).");
+        faults(2, "a(X,Y):-b(X,Y),~b(X^).");
+        faults(2, "a(X):-a(X,X ^).");
+        faults(2, "a(X,#):-b(X). c(1):-a(1^).");
+        faults(3, "a(X):-b(X),c(X),d(X).e(X):-f(X),g(X),h(X).^i(1).");
+        faults(3, "a(X):-b(X),c(X),d(X).e(X):-f(X),g(X),h(X),~ ^i(1).");
+        faults(3, "a(1).".repeat(16) + " ^a(1).");
+        faults(1, "a(1).".repeat(16) + " ^A");
+        faults(3, "a(1):-1=1,1=1,1=1,1=1,1=1,^1=1.");
+        faults(3, "a(1):-1=1,1=1,1=1,1=1,1=1,^X");
+        faults(3, "a(1):-1=1,1=1,1=1,1=1,1=1,^~");
+        faults(3, "a(1):-1=1,1=1,1=1,1=1,1=1,^b");
+        faults(1, "a(1):-1=1,1=1,1=1,1=1,1=1,^.");
+        faults(3, "a(1):-b(1),b(1),b(1),^b(1).");
+        faults(3, "a(1):-b(1),~b(2),b(1),b(1),^b(1).");
+        faults(3, "a(1):-b(A,B,C),b(D,E,F),b(A,B,^G).");
+        faults(3, "a(A,B,C):-b(D,E,F),^G<1.");
+        faults(4, "a(X)^.");
+        faults(4, "a(X):-b(Y)^.");
+        faults(4, "a(1):-b(X),~b(Y)^.");
+        faults(4, "a(1):-b(X),Y=X^.");
+        faults(4, "a(X):-X=1^.");
+        faults(4, "a(X,#)^.");
+        faults(4, "c(1). a(Y,#):-b(X) ^. a(1).");
+        faults(5, "a(#)^.");
+        faults(5, "a(#):-b(X). a(1)^.");
+        faults(5, "a(1). a(#):-b(X)^.");
+        faults(5, "a(#):-b(X). a(#):-b(X)^.");
+        faults(4, "a(#):-b(X). a(Y):-b(X)^.");
+        faults(6, "w(X):-e(X,Y),~w(Y).^");
+        faults(6, "n(#):-n(X). ^");
+        faults(6, "n(#):-m(X).m(X):-n(X).^");
+        faults(1, "n(#):-n(X). n^");
+        faults(4, "n(#):-n(X). m(X)^. ?");
+    }
+
+    private static void parsesInPlaceOfOthers() {
+        ViewRounds x = made(PATHS);
+        add(x, 1, 1, 2, 0);
+        x.batch();
+        add(x, 1, 2, 3, 0);
+        same("parse of other rules", Check.parse(x, "a(X):-b(X). a(7)."), 2);
+        same("changes", x.told(2), 0);
+        same("differences", x.told(3), 0);
+        same("no batch was done", x.undo(), NONE);
+        same("no difference", x.difference(0, 0), NONE);
+        same("relation", x.relation('p'), NONE);
+        rows(x, 0, 7);
+        rows(x, 1);
+        same("parse with a fault", Check.parse(x, "a"), -11);
+        asksWithoutRules(x);
+        same("parse", Check.parse(x, "a(X):-b(X)."), 1);
+        add(x, 1, 1, 0, 0);
+        same("parse of nothing", x.parse(), 0);
+        asksWithoutRules(x);
+    }
+
+    private static void parsesThatAreFull() {
+        StringBuilder facts = new StringBuilder();
+        for (int i = 0; i < 10; i++) {
+            facts.append("v(").append(i).append(").");
+            ViewRounds x = made(PATHS);
+            add(x, 1, 1, 2, 0);
+            same("pairs of " + (i + 1), Check.parse(x, facts + "p(X,Y):-v(X),v(Y)."), i < 6 ? i + 2 : FULL);
+            same("place", x.place(), NONE);
+            if (i >= 6) {
+                asksWithoutRules(x);
+            }
+            same("triples of " + (i + 1), Check.parse(x, facts + "n(#):-v(X),v(Y),v(Z)."), i < 9 ? i + 2 : FULL);
+            same("number", x.row(1, 0, 0), i < 9 ? (i + 1) * (i + 1) * (i + 1) : STATE);
+        }
+    }
+
+    private static void promise4() {
+        ViewRounds x = new ViewRounds();
+        same("parse", Check.parse(x, "a(1)"), -11);
+        same("place", x.place(), 4);
+        same("feed", x.feed('a', 1), 1);
+        same("place stays", x.place(), 4);
+        same("parse", Check.parse(x, "(1)."), 1);
+        same("place after a good text", x.place(), NONE);
+        same("parse", Check.parse(x, " ~"), -11);
+        same("place", x.place(), 1);
+        same("parse of nothing", x.parse(), 0);
+        same("place", x.place(), NONE);
+    }
+
+    private static void promise5() {
+        ringIs("w(X):-e(X,Y),~w(Y).", "w");
+        ringIs("n(#):-n(X).", "n");
+        ringIs("z(X):-t(X),y(X). y(X):-x(X). x(X):-t(X),~z(X). r(X):-z(X). s(X):-s(X).", "zyx");
+        // the first ring that may be is one without a negation, the second one counts
+        ringIs("a(X):-a(X),t(X). d(X):-t(X),~c(X). c(X):-d(X). f(X):-t(X),~f(X).", "dc");
+        ringIs("f(X):-t(X),~g(X). g(X):-h(X). h(X):-t(X). d(X):-c(X). c(#):-d(X).", "dc");
+        // two rings that share a relation are one
+        ringIs("a(X):-b(X). b(X):-a(X),c(X). c(X):-b(X),~c(X).", "abc");
+        ringIs("k(X):-t(X),~l(X). l(X):-k(X),m(X). m(X):-l(X). t(1):-t(X).", "klm");
+        ringIs("a(X):-b(X),c(X). c(X):-e(X),~c(X). b(X):-e(X),~b(X).", "b");
+        ViewRounds x = made("p(X):-p(X),t(X).");
+        same("no ring is refused", x.ring(0), NONE);
+    }
+
+    private static void ringIs(String text, String names) {
+        ViewRounds x = new ViewRounds();
+        same("parse of " + text, Check.parse(x, text), -16);
+        same("place", x.place(), text.length());
+        for (int i = 0; i < 9; i++) {
+            same("ring(" + i + ") of " + text, x.ring(i), i < names.length() ? names.charAt(i) : NONE);
+        }
+        same("ring(-1)", x.ring(-1), NONE);
+        same("ring(LOW)", x.ring(LOW), NONE);
+        same("ring(HIGH)", x.ring(HIGH), NONE);
+        same("parse", Check.parse(x, "a("), -11);
+        same("ring of the latest", x.ring(0), NONE);
+    }
+
+    private static void promise6() {
+        ViewRounds x = made("z(A):-a(A),~m(A).");
+        same("z", x.relation('z'), 0);
+        same("a", x.relation('a'), 1);
+        same("m", x.relation('m'), 2);
+        int[] none = {'b', 'A', 0, -1, 'a' - 1, 'z' + 1, 'a' + 256, LOW, HIGH};
+        for (int name : none) {
+            same("relation(" + name + ")", x.relation(name), NONE);
+        }
+    }
+
+    private static void promise7() {
+        ViewRounds x = made(PATHS);
+        int[][] due = {{1, 2, 1, 0, 1}, {0, 2, 0, 0, 0}, {1, 1, 2, 0, 0}, {0, 1, 0, 0, 0}, {1, 2, 2, 0, 0}};
+        for (int relation = 0; relation < 5; relation++) {
+            for (int what = 0; what < 5; what++) {
+                same("of(" + relation + ", " + what + ")", x.of(relation, what), due[relation][what]);
+            }
+        }
+        int[][] bad = {{-1, 0}, {5, 0}, {8, 0}, {LOW, 0}, {HIGH, 0}, {0, -1}, {0, 5}, {0, LOW}, {0, HIGH}};
+        for (int[] pair : bad) {
+            same("of(" + pair[0] + ", " + pair[1] + ")", x.of(pair[0], pair[1]), BAD);
+        }
+        layers("a(X):-b(X),~c(X). c(X):-d(X),~e(X). e(X):-g(X),~f(X). f(1). h(X):-a(X). a(X):-h(X).", "abcdefgh", 4, 0, 3, 0, 2, 1, 0, 4);
+        layers("a(#):-b(X),~c(X). b(1). c(#):-d(X). d(2). e(X):-a(X).", "abcde", 3, 1, 2, 1, 3);
+        layers("a(X):-t(X). b(X):-a(X). c(X):-b(X),X<5. d(#):-t(X).", "atbcd", 1, 0, 1, 1, 1);
+        ViewRounds rings = made("a(X):-b(X). b(X):-c(X). c(X):-a(X). d(X):-a(X). c(X):-t(X).");
+        for (int i = 0; i < 5; i++) {
+            same("ring at " + i, rings.of(i, 4), i < 3 ? 1 : 0);
+        }
+    }
+
+    private static void layers(String text, String names, int... due) {
+        ViewRounds x = made(text);
+        for (int i = 0; i < due.length; i++) {
+            same("layer of " + names.charAt(i) + " in " + text, x.of(x.relation(names.charAt(i)), 2), due[i]);
+        }
+    }
+
+    private static void promise8() {
+        ViewRounds x = made("a(X):-b(X,Y,Z),t(X).");
+        int[][] bad = {{0, 1, 0, 0, 1}, {-1, 1, 0, 0, 1}, {3, 1, 0, 0, 1}, {LOW, 0, 0, 0, 1}, {HIGH, 0, 0, 0, 1}, {1, 0, 0, 0, 0},
+            {1, 0, 0, 0, 2}, {1, 0, 0, 0, -2}, {1, 0, 0, 0, LOW}, {1, -1, 0, 0, 1}, {1, 1000, 0, 0, 1}, {1, 0, -1, 0, 1}, {1, 0, 1000, 0, 1},
+            {1, 0, 0, -1, 1}, {1, 0, 0, 1000, 1}, {2, -1, 0, 0, 1}, {1, HIGH, 0, 0, 1}, {1, 0, LOW, 0, 1}};
+        for (int[] call : bad) {
+            same("a bad change", x.change(call[0], call[1], call[2], call[3], call[4]), BAD);
+        }
+        same("nothing has come", x.told(2), 0);
+        same("values beyond", x.change(2, 999, -1, 1000, 1), 1);
+        same("a row as less", x.change(1, 0, 999, 0, -1), 2);
+        for (int i = 3; i <= 60; i++) {
+            same("change " + i, x.change(2, i, 0, 0, 1), i);
+        }
+        same("change 61", x.change(2, 1, 0, 0, 1), FULL);
+        same("BAD comes before FULL", x.change(2, 1000, 0, 0, 1), BAD);
+        same("changes", x.told(2), 60);
+    }
+
+    private static void promise9() {
+        ViewRounds x = made("a(X):-b(X).");
+        same("a batch without changes", x.batch(), 0);
+        same("it was done", x.told(4), 1);
+        for (int i = 0; i < 9; i++) {
+            add(x, 1, 5, 0, 0);
+        }
+        same("nine of a row", x.batch(), 1);
+        same("count", x.has(1, 5, 0, 0), 9);
+        add(x, 1, 5, 0, 0);
+        add(x, 1, 6, 0, 0);
+        same("ten of a row", x.batch(), BAD);
+        same("the batch is empty", x.told(2), 0);
+        same("nothing has changed", x.has(1, 6, 0, 0), 0);
+        same("nor the latest differences", x.told(3), 1);
+        same("nor what can be taken back", x.told(4), 2);
+        add(x, 1, 5, 0, 0);
+        x.change(1, 5, 0, 0, -1);
+        x.change(1, 6, 0, 0, -1);
+        add(x, 1, 6, 0, 0);
+        same("sums count, in any order", x.batch(), 0);
+        x.change(1, 7, 0, 0, -1);
+        same("below nothing", x.batch(), BAD);
+        batchesThatAreFull();
+        batchesOfViews();
+    }
+
+    private static void batchesThatAreFull() {
+        ViewRounds x = made("a(1):-b(X),X<0.");
+        for (int i = 0; i < 40; i++) {
+            add(x, 1, i, 0, 0);
+        }
+        same("forty rows", x.batch(), 0);
+        add(x, 1, 40, 0, 0);
+        same("a table would be full", x.batch(), FULL);
+        same("the batch is empty", x.told(2), 0);
+        same("rows", x.of(1, 3), 40);
+        add(x, 1, 41, 0, 0);
+        x.change(1, 50, 0, 0, -1);
+        same("BAD comes before FULL", x.batch(), BAD);
+        for (int i = 0; i < 30; i++) {
+            add(x, 1, 100 + i, 0, 0);
+        }
+        for (int i = 0; i < 30; i++) {
+            x.change(1, i, 0, 0, -1);
+        }
+        same("sixty changes that fit together", x.batch(), 0);
+        same("rows", x.of(1, 3), 40);
+        same("first row", x.row(1, 0, 0), 30);
+        ViewRounds pairs = made("p(X,Y):-v(X),v(Y). n(#):-w(X),w(Y),w(Z).");
+        for (int i = 0; i < 6; i++) {
+            add(pairs, 1, i, 0, 0);
+        }
+        same("36 pairs", pairs.batch(), 36);
+        add(pairs, 1, 6, 0, 0);
+        same("49 pairs", pairs.batch(), FULL);
+        for (int i = 0; i < 9; i++) {
+            add(pairs, 3, i, 0, 0);
+        }
+        same("729 triples", pairs.batch(), 1);
+        same("number", pairs.row(2, 0, 0), 729);
+        add(pairs, 3, 9, 0, 0);
+        same("1000 triples", pairs.batch(), FULL);
+        same("all is as it was", pairs.row(2, 0, 0), 729);
+        CHECK.holds("anew", pairs.anew());
+    }
+
+    private static void batchesOfViews() {
+        // rows that hold one another up around do not stay
+        ViewRounds x = made("o(X):-q(X). q(X):-o(X). q(X):-v(X),~z(X).");
+        add(x, 2, 4, 0, 0);
+        same("both come", x.batch(), 2);
+        add(x, 3, 4, 0, 0);
+        same("both go", x.batch(), 2);
+        rows(x, 0);
+        // numbers of values of all variables, not of rows of the head
+        ViewRounds counts = made("n(X,#):-e(X,Y),e(Z,Y),~f(Z). m(#):-e(1,Y). k(7,X,#):-e(X,Y).");
+        add(counts, 1, 1, 5, 0);
+        add(counts, 1, 2, 5, 0);
+        add(counts, 1, 2, 6, 0);
+        same("rows come", counts.batch(), 5);
+        same("n(1, 2)", counts.has(0, 1, 2, 0), 1);
+        same("n(2, 3)", counts.has(0, 2, 3, 0), 1);
+        same("m(1)", counts.has(3, 1, 0, 0), 1);
+        same("k(7, 2, 2)", counts.has(4, 7, 2, 2), 1);
+        add(counts, 2, 2, 0, 0);
+        same("a number goes and another comes", counts.batch(), 4);
+        isDifference(counts, 0, 0, 1, 1, 0, 1);
+        isDifference(counts, 1, 0, 1, 2, 0, -1);
+        isDifference(counts, 2, 0, 2, 1, 0, 1);
+        isDifference(counts, 3, 0, 2, 3, 0, -1);
+        ViewRounds tests = made("a(X):-v(X),X<5. b(X):-v(X),5=X. c(X):-v(X),X!5. d(1):-~v(9). e(1):-3<2. f(1):-2<3.");
+        for (int i = 4; i <= 6; i++) {
+            add(tests, 1, i, 0, 0);
+        }
+        same("rows come", tests.batch(), 4);
+        rows(tests, tests.relation('a'), 4);
+        rows(tests, tests.relation('b'), 5);
+        rows(tests, tests.relation('c'), 4, 6);
+        rows(tests, tests.relation('d'), 1);
+        rows(tests, tests.relation('e'));
+        rows(tests, tests.relation('f'), 1);
+        ViewRounds alike = made("s(X):-w(X,Y,X). r(Y,X):-w(X,Y,3),w(Y,X,Z).");
+        add(alike, 1, 1, 2, 1);
+        add(alike, 1, 1, 2, 3);
+        add(alike, 1, 2, 1, 9);
+        same("rows come", alike.batch(), 2);
+        same("s(1)", alike.has(0, 1, 0, 0), 1);
+        same("r(2, 1)", alike.has(2, 2, 1, 0), 1);
+    }
+
+    private static void promise10() {
+        ViewRounds x = made("a(X):-b(X).");
+        same("nothing to drop", x.drop(), 0);
+        add(x, 1, 1, 0, 0);
+        add(x, 1, 2, 0, 0);
+        same("two dropped", x.drop(), 2);
+        same("the batch is empty", x.told(2), 0);
+        same("it changes nothing", x.batch(), 0);
+        rows(x, 0);
+    }
+
+    private static void promise11() {
+        ViewRounds x = made("b(Y,X):-t(X,Y),X<Y. a(X,Y,Z):-t(X,Y),t(Y,Z). s(X):-t(X,X).");
+        same("none yet", x.difference(0, 0), NONE);
+        add(x, 1, 7, 8, 0);
+        add(x, 1, 8, 8, 0);
+        same("batch", x.batch(), 4);
+        isDifference(x, 0, 0, 8, 7, 0, 1);
+        isDifference(x, 1, 2, 7, 8, 8, 1);
+        isDifference(x, 2, 2, 8, 8, 8, 1);
+        isDifference(x, 3, 3, 8, 0, 0, 1);
+        int[] none = {-1, 4, LOW, HIGH, 640};
+        for (int k : none) {
+            same("difference(" + k + ", 0)", x.difference(k, 0), NONE);
+            same("BAD comes before NONE", x.difference(k, 5), BAD);
+        }
+        int[] bad = {-1, 5, LOW, HIGH};
+        for (int what : bad) {
+            same("difference(0, " + what + ")", x.difference(0, what), BAD);
+        }
+        add(x, 1, 8, 9, 0);
+        x.change(1, 8, 8, 0, -1);
+        same("batch", x.batch(), 5);
+        isDifference(x, 0, 0, 9, 8, 0, 1);
+        isDifference(x, 1, 2, 7, 8, 8, -1);
+        isDifference(x, 2, 2, 7, 8, 9, 1);
+        isDifference(x, 3, 2, 8, 8, 8, -1);
+        isDifference(x, 4, 3, 8, 0, 0, -1);
+        x.change(1, 1, 1, 0, -1);
+        same("a bad batch", x.batch(), BAD);
+        isDifference(x, 4, 3, 8, 0, 0, -1);
+        same("undo", x.undo(), 5);
+        isDifference(x, 0, 0, 9, 8, 0, -1);
+        isDifference(x, 1, 2, 7, 8, 8, 1);
+        isDifference(x, 4, 3, 8, 0, 0, 1);
+    }
+
+    private static void promise12() {
+        ViewRounds x = made("a(X):-b(X).");
+        same("there is none", x.undo(), NONE);
+        for (int i = 0; i < 8; i++) {
+            add(x, 1, i, 0, 0);
+            add(x, 1, 50, 0, 0);
+            same("batch " + i, x.batch(), i == 0 ? 2 : 1);
+            same("can be taken back", x.told(4), Math.min(6, i + 1));
+        }
+        add(x, 1, 99, 0, 0);
+        for (int i = 7; i >= 2; i--) {
+            same("undo " + i, x.undo(), 1);
+            isDifference(x, 0, 0, i, 0, 0, -1);
+            same("count", x.has(1, 50, 0, 0), i);
+            same("can be taken back", x.told(4), i - 2);
+            CHECK.holds("anew", x.anew());
+        }
+        same("no seventh", x.undo(), NONE);
+        isDifference(x, 0, 0, 2, 0, 0, -1);
+        rows(x, 0, 0, 1, 50);
+        same("the batch under way stays", x.told(2), 1);
+        same("batch", x.batch(), 1);
+        same("undo", x.undo(), 1);
+        same("undo", x.undo(), NONE);
+        for (int i = 0; i < 40; i++) {
+            add(x, 1, i < 3 ? i : 900 + i, 0, 0);
+        }
+        for (int i = 0; i < 3; i++) {
+            x.change(1, i, 0, 0, -1);
+        }
+        same("many at once", x.batch(), 37);
+        for (int i = 3; i < 40; i++) {
+            x.change(1, 900 + i, 0, 0, -1);
+        }
+        same("and away", x.batch(), 37);
+        same("and back", x.undo(), 37);
+        same("and away", x.undo(), 37);
+    }
+
+    private static void promise13() {
+        ViewRounds x = made(PATHS);
+        add(x, 1, 1, 2, 0);
+        add(x, 1, 1, 2, 77);
+        add(x, 3, 999, 0, 0);
+        add(x, 3, 0, 0, 0);
+        same("batch", x.batch(), 4);
+        same("e(1, 2)", x.has(1, 1, 2, -5), 2);
+        same("e(2, 1)", x.has(1, 2, 1, 0), 0);
+        same("p(1, 2)", x.has(0, 1, 2, 1000), 1);
+        same("p(2, 2)", x.has(0, 2, 2, 0), 0);
+        same("v(999)", x.has(3, 999, -1, LOW), 1);
+        same("v(0)", x.has(3, 0, 1000, HIGH), 1);
+        same("n(1, 1)", x.has(4, 1, 1, 0), 1);
+        int[][] bad = {{-1, 0, 0, 0}, {5, 0, 0, 0}, {LOW, 0, 0, 0}, {HIGH, 0, 0, 0}, {0, -1, 0, 0}, {0, 1000, 0, 0}, {0, 0, -1, 0},
+            {1, 0, 1000, 0}, {3, -1, 0, 0}, {3, HIGH, 0, 0}};
+        for (int[] call : bad) {
+            same("a bad has", x.has(call[0], call[1], call[2], call[3]), BAD);
+        }
+        ViewRounds three = made("w(1,2,3).");
+        same("w(1, 2, 3)", three.has(0, 1, 2, 3), 1);
+        same("w(1, 2, 4)", three.has(0, 1, 2, 4), 0);
+        same("a third value outside", three.has(0, 1, 2, 1000), BAD);
+        same("a third value outside", three.has(0, 1, 2, -1), BAD);
+    }
+
+    private static void promise14() {
+        ViewRounds x = made("a(X,Y,Z):-t(X,Y,Z).");
+        int[][] due = {{0, 0, 0, 1}, {0, 0, 1, 1}, {0, 1, 0, 2}, {0, 999, 999, 1}, {1, 0, 0, 1}, {10, 2, 3, 1}, {999, 999, 999, 1}};
+        for (int i = due.length - 1; i >= 0; i--) {
+            add(x, 1, due[i][0], due[i][1], due[i][2]);
+        }
+        add(x, 1, 0, 1, 0);
+        same("batch", x.batch(), due.length);
+        for (int k = 0; k < due.length; k++) {
+            for (int what = 0; what < 4; what++) {
+                same("row(1, " + k + ", " + what + ")", x.row(1, k, what), due[k][what]);
+                same("row(0, " + k + ", " + what + ")", x.row(0, k, what), what == 3 ? 1 : due[k][what]);
+            }
+        }
+        int[] none = {-1, 7, 40, 100, LOW, HIGH};
+        for (int k : none) {
+            same("row(1, " + k + ", 0)", x.row(1, k, 0), NONE);
+            same("BAD comes before NONE", x.row(1, k, 4), BAD);
+            same("BAD comes before NONE", x.row(2, k, 0), BAD);
+        }
+        int[] bad = {-1, 4, LOW, HIGH};
+        for (int outside : bad) {
+            same("row(1, 0, " + outside + ")", x.row(1, 0, outside), BAD);
+            same("row(" + outside + ", 0, 0)", x.row(outside, 0, 0), BAD);
+        }
+        ViewRounds small = made("a(5).");
+        same("its value", small.row(0, 0, 0), 5);
+        same("a value beyond its terms", small.row(0, 0, 1), 0);
+        same("a value beyond its terms", small.row(0, 0, 2), 0);
+    }
+
+    private static void promise15() {
+        ViewRounds x = made("a(X):-t(X,Y). a(X):-t(X,Y),t(X,Z),Y<Z. a(3). n(X,#):-t(X,Y). a(X):-a(X).");
+        for (int i = 0; i < 4; i++) {
+            add(x, 1, 3, i, 0);
+        }
+        add(x, 1, 5, 5, 0);
+        add(x, 1, 5, 5, 0);
+        same("batch", x.batch(), 3);
+        same("a(3)", x.derivations(0, 3, -1, 1000), 4 + 6 + 1 + 1);
+        same("a(5)", x.derivations(0, 5, 0, 0), 2);
+        same("a(4)", x.derivations(0, 4, 0, 0), 0);
+        same("n(3, 4)", x.derivations(2, 3, 4, -1), 4);
+        same("n(3, 3)", x.derivations(2, 3, 3, 0), 0);
+        same("n(4, 4)", x.derivations(2, 4, 4, 0), 0);
+        int[][] bad = {{1, 3, 0, 0}, {-1, 3, 0, 0}, {3, 3, 0, 0}, {LOW, 0, 0, 0}, {HIGH, 0, 0, 0}, {0, -1, 0, 0}, {0, 1000, 0, 0}, {2, 3, 1000, 0}};
+        for (int[] call : bad) {
+            same("bad derivations", x.derivations(call[0], call[1], call[2], call[3]), BAD);
+        }
+        ViewRounds many = made("a(1):-t(X),t(Y),t(Z).");
+        for (int i = 0; i < 40; i++) {
+            add(many, 1, i, 0, 0);
+        }
+        same("batch", many.batch(), 1);
+        same("all triples", many.derivations(0, 1, 0, 0), 64000);
+    }
+
+    private static void promise16() {
+        ViewRounds x = made("a(X):-t(X,Z),t(C,Z),C!X. a(X):-t(X,Y). n(#):-t(X,Y). a(8):-~t(1,1). b(Z,A):-t(A,Z),t(Z,Q).");
+        add(x, 1, 5, 7, 0);
+        add(x, 1, 6, 7, 0);
+        add(x, 1, 9, 7, 0);
+        add(x, 1, 5, 9, 0);
+        add(x, 1, 4, 9, 0);
+        add(x, 1, 3, 3, 0);
+        x.batch();
+        // of a(5) by rule 0, with C, X, Z: 4, 5, 9 and 6, 5, 7 and 9, 5, 7
+        whyIs(x, 0, 5, 0, 0, 3, 4, 5, 9);
+        whyIs(x, 0, 6, 0, 0, 3, 5, 6, 7);
+        whyIs(x, 0, 3, 0, 1, 2, 3, 3);
+        whyIs(x, 0, 8, 0, 3, 0);
+        whyIs(x, 3, 9, 4, 4, 3, 4, 7, 9);
+        whyIs(x, 0, 7, 0);
+        int[] views = {1, 2, 4, -1, LOW, HIGH};
+        for (int view : views) {
+            same("why of " + view, x.why(view, 6, 0, 0, 0), BAD);
+        }
+        int[] bad = {-1, 8, LOW, HIGH};
+        for (int what : bad) {
+            same("why what " + what, x.why(0, 6, 0, 0, what), BAD);
+            same("BAD comes before NONE", x.why(0, 7, 0, 0, what), BAD);
+        }
+        same("a value outside", x.why(0, 1000, 0, 0, 0), BAD);
+        same("a value outside", x.why(3, 0, -1, 0, 0), BAD);
+        same("a value beyond", x.why(0, 6, -1, 1000, 0), 0);
+        ViewRounds six = made("a(F):-t(A,B,C),t(D,E,F).");
+        add(six, 1, 1, 2, 3);
+        add(six, 1, 4, 5, 6);
+        six.batch();
+        whyIs(six, 0, 6, 0, 0, 6, 1, 2, 3, 4, 5, 6);
+    }
+
+    private static void whyIs(ViewRounds x, int view, int a, int b, int... due) {
+        for (int what = 0; what < 8; what++) {
+            String call = "why(" + view + ", " + a + ", " + b + ", 0, " + what + ")";
+            same(call, x.why(view, a, b, 0, what), what < due.length ? due[what] : NONE);
+        }
+    }
+
+    private static void promise17() {
+        ViewRounds x = made(PATHS);
+        CHECK.holds("anew with nothing", x.anew());
+        for (int i = 0; i < 6; i++) {
+            add(x, 1, i, (i + 1) % 6, 0);
+            add(x, 3, i, 0, 0);
+            x.batch();
+            CHECK.holds("anew after a batch", x.anew());
+        }
+        x.change(1, 0, 1, 0, -1);
+        x.batch();
+        CHECK.holds("anew after a row went", x.anew());
+        same("paths", x.of(0, 3), 15);
+        x.undo();
+        CHECK.holds("anew after undo", x.anew());
+        same("paths", x.of(0, 3), 36);
+        add(x, 1, 0, 5, 0);
+        CHECK.holds("anew with a batch under way", x.anew());
+        same("it changes nothing", x.of(0, 3), 36);
+        same("nor the batch", x.told(2), 1);
+        same("nor the differences", x.told(3), 33);
+    }
+
+    private static void promise18() {
+        ViewRounds x = made(PATHS);
+        toldIs(x, 4, 5, 0, 0, 0, 2);
+        add(x, 1, 1, 2, 0);
+        toldIs(x, 4, 5, 1, 0, 0, 2);
+        x.batch();
+        toldIs(x, 4, 5, 0, 2, 1, 2);
+        add(x, 3, 7, 0, 0);
+        x.batch();
+        toldIs(x, 4, 5, 0, 1, 2, 2);
+        x.undo();
+        x.undo();
+        toldIs(x, 4, 5, 0, 2, 0, 2);
+        Check.parse(x, "a(1).");
+        toldIs(x, 1, 1, 0, 0, 0, 1);
+        Check.parse(x, "a(1)");
+        toldIs(x, 0, 0, 0, 0, 0, 0);
+    }
+
+    private static void toldIs(ViewRounds x, int... due) {
+        for (int what = 0; what < 6; what++) {
+            same("told(" + what + ")", x.told(what), due[what]);
+        }
+        int[] bad = {-1, 6, LOW, HIGH};
+        for (int what : bad) {
+            same("told(" + what + ")", x.told(what), BAD);
+        }
+    }
+
+    public static void main(String[] args) {
+        promise1();
+        promise2();
+        promise3();
+        promise4();
+        promise5();
+        promise6();
+        promise7();
+        promise8();
+        promise9();
+        promise10();
+        promise11();
+        promise12();
+        promise13();
+        promise14();
+        promise15();
+        promise16();
+        promise17();
+        promise18();
+        CHECK.finish();
+    }
+}
