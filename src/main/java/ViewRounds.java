@@ -36,10 +36,10 @@ public final class ViewRounds {
     private Program program = new Program();
     private Rows[] now = new Rows[MOST_RELATIONS];
     private Rows[] next = new Rows[MOST_RELATIONS];
-    private Changes underWay = new Changes();
-    private final Changes[] done = new Changes[MOST_TAKEN_BACK];
+    private SignedRows underWay = new SignedRows(MOST_CHANGES);
+    private final SignedRows[] done = new SignedRows[MOST_TAKEN_BACK];
     private int doneSize;
-    private final Differences latest = new Differences();
+    private final SignedRows latest = new SignedRows(2 * MOST_VIEW_ROWS);
     private final Engine engine = new Engine();
 
     public ViewRounds() {
@@ -48,7 +48,7 @@ public final class ViewRounds {
             next[i] = new Rows();
         }
         for (int i = 0; i < MOST_TAKEN_BACK; i++) {
-            done[i] = new Changes();
+            done[i] = new SignedRows(MOST_CHANGES);
         }
     }
 
@@ -174,7 +174,7 @@ public final class ViewRounds {
             return NONE;
         }
         if (what == 0) {
-            return latest.views[k];
+            return latest.relations[k];
         }
         return what == 4 ? latest.signs[k] : valueAt(latest.keys[k], what - 1);
     }
@@ -308,10 +308,10 @@ public final class ViewRounds {
     }
 
     /** Tries changes, or with direction -1 their contrary, on the second set of rows. */
-    private int settle(Changes changes, int direction) {
+    private int settle(SignedRows changes, int direction) {
         copyTables();
         for (int i = 0; i < changes.size; i++) {
-            next[changes.tables[i]].add(changes.keys[i], direction * changes.signs[i]);
+            next[changes.relations[i]].add(changes.keys[i], direction * changes.signs[i]);
         }
         boolean tooMany = false;
         for (int i = 0; i < program.relations; i++) {
@@ -328,24 +328,40 @@ public final class ViewRounds {
         latest.size = 0;
         for (int i = 0; i < program.relations; i++) {
             if (program.isView(i)) {
-                latest.compare(i, now[i], next[i]);
+                noteDifferences(i, now[i], next[i]);
             }
         }
         takeNext();
         return latest.size;
     }
 
+    private void noteDifferences(int view, Rows before, Rows after) {
+        int old = 0;
+        int fresh = 0;
+        for (int i = 0; i < 2 * MOST_ROWS && (old < before.size || fresh < after.size); i++) {
+            boolean goes = fresh >= after.size || (old < before.size && before.keys[old] < after.keys[fresh]);
+            boolean comes = !goes && (old >= before.size || after.keys[fresh] < before.keys[old]);
+            if (goes) {
+                latest.append(view, before.keys[old], -1);
+            } else if (comes) {
+                latest.append(view, after.keys[fresh], 1);
+            }
+            old += comes ? 0 : 1;
+            fresh += goes ? 0 : 1;
+        }
+    }
+
     /** The oldest of six gives its room to the batch that comes after this one. */
     private void keepForTakingBack() {
         if (doneSize == MOST_TAKEN_BACK) {
-            Changes oldest = done[0];
+            SignedRows oldest = done[0];
             for (int i = 1; i < MOST_TAKEN_BACK; i++) {
                 done[i - 1] = done[i];
             }
             done[MOST_TAKEN_BACK - 1] = oldest;
             doneSize--;
         }
-        Changes free = done[doneSize];
+        SignedRows free = done[doneSize];
         done[doneSize] = underWay;
         underWay = free;
         doneSize++;
@@ -931,54 +947,25 @@ public final class ViewRounds {
         }
     }
 
-    /** The changes of one batch. */
-    private static final class Changes {
-        final int[] tables = new int[MOST_CHANGES];
-        final int[] keys = new int[MOST_CHANGES];
-        final int[] signs = new int[MOST_CHANGES];
+    /** Rows of relations, each with a sign: the changes of a batch, or the differences that it made. */
+    private static final class SignedRows {
+        final int[] relations;
+        final int[] keys;
+        final int[] signs;
         int size;
 
-        void append(int table, int key, int sign) {
-            if (size >= MOST_CHANGES) {
-                return;
-            }
-            tables[size] = table;
-            keys[size] = key;
-            signs[size] = sign;
-            size++;
-        }
-    }
-
-    /** What came and went in the views. */
-    private static final class Differences {
-        final int[] views = new int[2 * MOST_VIEW_ROWS];
-        final int[] keys = new int[2 * MOST_VIEW_ROWS];
-        final int[] signs = new int[2 * MOST_VIEW_ROWS];
-        int size;
-
-        void compare(int view, Rows before, Rows after) {
-            int old = 0;
-            int fresh = 0;
-            for (int i = 0; i < 2 * MOST_ROWS && (old < before.size || fresh < after.size); i++) {
-                boolean oldIsLess = fresh >= after.size || (old < before.size && before.keys[old] < after.keys[fresh]);
-                if (oldIsLess) {
-                    append(view, before.keys[old], -1);
-                    old++;
-                } else if (old >= before.size || after.keys[fresh] < before.keys[old]) {
-                    append(view, after.keys[fresh], 1);
-                    fresh++;
-                } else {
-                    old++;
-                    fresh++;
-                }
-            }
+        SignedRows(int room) {
+            int length = Math.max(0, room);
+            relations = new int[length];
+            keys = new int[length];
+            signs = new int[length];
         }
 
-        private void append(int view, int key, int sign) {
-            if (size >= 2 * MOST_VIEW_ROWS) {
+        void append(int relation, int key, int sign) {
+            if (size >= keys.length) {
                 return;
             }
-            views[size] = view;
+            relations[size] = relation;
             keys[size] = key;
             signs[size] = sign;
             size++;
