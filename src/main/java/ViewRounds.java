@@ -680,10 +680,11 @@ public final class ViewRounds {
 
         void readRules() {
             // the rule after the last one that has room is begun, to be refused
-            for (int i = 0; i <= MOST_RULES && fault == 0 && sign() != TEXT_END; i++) {
-                readRule();
+            boolean read = true;
+            for (int i = 0; i <= MOST_RULES && read && sign() != TEXT_END; i++) {
+                read = readRule();
             }
-            if (fault == 0 && !program.findLayers()) {
+            if (read && !program.findLayers()) {
                 fail(NO_LAYERS);
             }
         }
@@ -877,11 +878,6 @@ public final class ViewRounds {
                 }
             }
             return below;
-        }
-
-        /** The place of the row behind a key that stood here, though rows may have come since. */
-        int seekBehind(int at, int key) {
-            return at < size && keys[at] == key ? at + 1 : seek(key + 1);
         }
 
         int countOf(int key) {
@@ -1103,14 +1099,12 @@ public final class ViewRounds {
                 span = weight(i);
                 low += valueOf(literal.terms[i]) * span;
             }
-            int at = candidates.seek(low);
-            for (int i = 0; i < ROOM && at < candidates.size && candidates.keys[at] - low < span; i++) {
-                int key = candidates.keys[at];
-                if (matches(literal, key)) {
+            // rows that come meanwhile move others up: one may be met twice, none is missed
+            for (int at = candidates.seek(low); at < candidates.size && at < ROOM && candidates.keys[at] - low < span; at++) {
+                if (matches(literal, candidates.keys[at])) {
                     solve(step + 1);
                 }
                 known = knownBefore;
-                at = candidates.seekBehind(at, key);
             }
         }
 

@@ -177,6 +177,12 @@ public final class PromisesTest {
         add(x, 1, 1, 2, 0);
         x.batch();
         add(x, 1, 2, 3, 0);
+        same("parse of the same rules", Check.parse(x, PATHS), 4);
+        rows(x, 1);
+        rows(x, 0);
+        add(x, 1, 3, 4, 0);
+        x.batch();
+        add(x, 1, 2, 3, 0);
         same("parse of other rules", Check.parse(x, "a(X):-b(X). a(7)."), 2);
         same("changes", x.told(2), 0);
         same("differences", x.told(3), 0);
@@ -375,6 +381,25 @@ public final class PromisesTest {
         same("1000 triples", pairs.batch(), FULL);
         same("all is as it was", pairs.row(2, 0, 0), 729);
         CHECK.holds("anew", pairs.anew());
+        ViewRounds products = made("n(#):-v(X),w(Y).");
+        for (int i = 0; i < 27; i++) {
+            add(products, 1, i, 0, 0);
+        }
+        for (int i = 0; i < 37; i++) {
+            add(products, 2, i, 0, 0);
+            if (i == 30) {
+                products.batch();
+            }
+        }
+        same("27 by 37", products.batch(), 2);
+        same("number", products.row(0, 0, 0), 999);
+        products.change(1, 0, 0, 0, -1);
+        products.change(1, 1, 0, 0, -1);
+        for (int i = 37; i < 40; i++) {
+            add(products, 2, i, 0, 0);
+        }
+        same("25 by 40", products.batch(), FULL);
+        same("number", products.row(0, 0, 0), 999);
     }
 
     private static void batchesOfViews() {
@@ -582,6 +607,11 @@ public final class PromisesTest {
         for (int[] call : bad) {
             same("bad derivations", x.derivations(call[0], call[1], call[2], call[3]), BAD);
         }
+        ViewRounds zero = made("a(0). n(X,#):-a(X).");
+        same("a(0)", zero.derivations(0, 0, 0, 0), 1);
+        same("why of a(0)", zero.why(0, 0, 0, 0, 0), 0);
+        same("n(0, 0)", zero.derivations(1, 0, 0, 0), 0);
+        same("n(0, 1)", zero.derivations(1, 0, 1, 0), 1);
         ViewRounds many = made("a(1):-t(X),t(Y),t(Z).");
         for (int i = 0; i < 40; i++) {
             add(many, 1, i, 0, 0);
