@@ -2,17 +2,36 @@
 final class Check {
     private int seen;
     private int wrong;
+    private String sentence = "";
+
+    /** The words of the document that the answers from here on are about. */
+    void says(String words) {
+        sentence = "\"" + words + "\": ";
+    }
 
     void same(String call, long got, long due) {
         seen++;
         if (got != due) {
             wrong++;
-            System.out.println(call + " answered " + got + ", due is " + due);
+            System.out.println(sentence + call + " answered " + got + ", due is " + due);
         }
     }
 
     void holds(String what, boolean held) {
         same(what, held ? 1 : 0, 1);
+    }
+
+    /** Two looks, of which only the first line that differs is worth telling. */
+    void alike(String what, String got, String due) {
+        String[] gotLines = got.split("\n");
+        String[] dueLines = due.split("\n");
+        int at = 0;
+        while (at < gotLines.length && at < dueLines.length && gotLines[at].equals(dueLines[at])) {
+            at++;
+        }
+        String gotLine = at < gotLines.length ? gotLines[at] : "nothing";
+        String dueLine = at < dueLines.length ? dueLines[at] : "nothing";
+        holds(what + ": seen is " + gotLine + ", to be seen is " + dueLine + "; alike", got.equals(due));
     }
 
     boolean isClean() {
