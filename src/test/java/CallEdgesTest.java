@@ -199,6 +199,10 @@ public final class CallEdgesTest {
         for (int i = 0; i < due.length; i++) {
             same("of(" + i + ", 4)", x.of(i, 4), due[i]);
         }
+        ViewRounds tests = Lives.read("a(X):-b(X). b(X):-t(X),X<5. c(#):-b(X),1<2.");
+        for (int i = 0; i < 4; i++) {
+            same("a condition leads nowhere " + i, tests.of(i, 4), 0);
+        }
         ViewRounds eight = Lives.read("a(X):-b(X).b(X):-c(X).c(X):-d(X).d(X):-e(X).e(X):-f(X).f(X):-g(X).g(X):-h(X).h(X):-a(X).");
         ViewRounds open = Lives.read("a(X):-b(X).b(X):-c(X).c(X):-d(X).d(X):-e(X).e(X):-f(X).f(X):-g(X).g(X):-h(X).");
         for (int i = 0; i < 8; i++) {

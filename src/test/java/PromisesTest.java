@@ -444,6 +444,71 @@ public final class PromisesTest {
         same("rows come", alike.batch(), 2);
         same("s(1)", alike.has(0, 1, 0, 0), 1);
         same("r(2, 1)", alike.has(2, 2, 1, 0), 1);
+        testsBeforeTheirRows();
+        viewsThroughThemselves();
+        viewsOfNumbers();
+    }
+
+    private static void testsBeforeTheirRows() {
+        ViewRounds x = made("a(A):-A<5,~c(A),b(A). d(A):-A!B,b(B),~c(B),b(A),A<B.");
+        add(x, 2, 3, 0, 0);
+        add(x, 2, 4, 0, 0);
+        add(x, 2, 7, 0, 0);
+        add(x, 1, 4, 0, 0);
+        same("rows come", x.batch(), 3);
+        rows(x, 0, 3);
+        rows(x, 3, 3, 4);
+    }
+
+    private static void viewsThroughThemselves() {
+        String[] steps = {"p(A,B),e(B,Z)", "e(A,B),p(B,Z)", "p(A,B),p(B,Z)", "p(B,Z),p(A,B)", "A<99,e(A,B),p(B,Z),~f(A)", "e(A,B),B!99,p(C,Z),C=B"};
+        for (String step : steps) {
+            ViewRounds x = made("p(A,Z):-e(A,Z). p(A,Z):-" + step + ".");
+            int[][] edges = {{9, 1}, {1, 2}, {2, 3}, {3, 4}, {5, 5}};
+            for (int[] edge : edges) {
+                add(x, 1, edge[0], edge[1], 0);
+            }
+            same("rows come by " + step, x.batch(), 11);
+            rows(x, 0, 1, 1, 1, 2, 2, 3, 5, 9, 9, 9, 9);
+            int[] seconds = {2, 3, 4, 3, 4, 4, 5, 1, 2, 3, 4};
+            for (int i = 0; i < seconds.length; i++) {
+                same("second value of row " + i + " by " + step, x.row(0, i, 1), seconds[i]);
+            }
+            x.change(1, 2, 3, 0, -1);
+            same("rows go by " + step, x.batch(), 6);
+            rows(x, 0, 1, 3, 5, 9, 9);
+        }
+    }
+
+    private static void viewsOfNumbers() {
+        ViewRounds x = made("n(X,#):-e(X,Y). k(Z,X):-n(X,Z). m(X):-k(X,Y). o(#):-k(X,Y).");
+        int[] groups = {1, 2, 3, 2, 1, 0, 2, 0, 3, 1};
+        int standing = 0;
+        for (int count : groups) {
+            for (int i = standing; i < count; i++) {
+                for (int j = 0; j <= i; j++) {
+                    add(x, 1, 10 + i, j, 0);
+                }
+            }
+            for (int i = count; i < standing; i++) {
+                for (int j = 0; j <= i; j++) {
+                    x.change(1, 10 + i, j, 0, -1);
+                }
+            }
+            standing = count;
+            CHECK.holds("batch", x.batch() > 0);
+            int[] firsts = new int[count];
+            int[] numbers = new int[count];
+            for (int i = 0; i < count; i++) {
+                firsts[i] = 10 + i;
+                numbers[i] = 1 + i;
+                same("k of number " + (1 + i), x.has(2, 1 + i, 10 + i, 0), 1);
+            }
+            rows(x, 0, firsts);
+            rows(x, 2, numbers);
+            rows(x, 3, numbers);
+            same("how many numbers", x.has(4, count, 0, 0), count > 0 ? 1 : 0);
+        }
     }
 
     private static void promise10() {
@@ -583,6 +648,15 @@ public final class PromisesTest {
             same("row(1, 0, " + outside + ")", x.row(1, 0, outside), BAD);
             same("row(" + outside + ", 0, 0)", x.row(outside, 0, 0), BAD);
         }
+        ViewRounds often = made("a(X):-t(X,Y). a(X):-t(X,Y),t(X,Z). a(X):-a(X).");
+        add(often, 1, 4, 1, 0);
+        add(often, 1, 4, 1, 0);
+        add(often, 1, 4, 2, 0);
+        same("batch", often.batch(), 1);
+        same("derivations", often.derivations(0, 4, 0, 0), 7);
+        same("the count of a row of a view", often.row(0, 0, 3), 1);
+        same("has of a row of a view", often.has(0, 4, 0, 0), 1);
+        same("the count of a row of a table", often.row(1, 0, 3), 2);
         ViewRounds small = made("a(5).");
         same("its value", small.row(0, 0, 0), 5);
         same("a value beyond its terms", small.row(0, 0, 1), 0);
@@ -653,6 +727,24 @@ public final class PromisesTest {
         add(six, 1, 4, 5, 6);
         six.batch();
         whyIs(six, 0, 6, 0, 0, 6, 1, 2, 3, 4, 5, 6);
+        leastOfSeveral();
+    }
+
+    private static void leastOfSeveral() {
+        ViewRounds x = made("a(1):-t(C,B,A). b(1):-t(A,B,C). c(1):-t(B,C,A).");
+        int[][] all = {{1, 9, 5}, {2, 8, 5}, {3, 8, 5}, {4, 7, 6}, {5, 0, 6}};
+        for (int[] row : all) {
+            add(x, 1, row[0], row[1], row[2]);
+        }
+        x.batch();
+        whyIs(x, 0, 1, 0, 0, 3, 5, 8, 2);
+        whyIs(x, 2, 1, 0, 1, 3, 1, 9, 5);
+        whyIs(x, 3, 1, 0, 2, 3, 5, 1, 9);
+        x.change(1, 1, 9, 5, -1);
+        x.change(1, 2, 8, 5, -1);
+        x.batch();
+        whyIs(x, 0, 1, 0, 0, 3, 5, 8, 3);
+        whyIs(x, 2, 1, 0, 1, 3, 3, 8, 5);
     }
 
     private static void whyIs(ViewRounds x, int view, int a, int b, int... due) {

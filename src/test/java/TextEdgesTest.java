@@ -418,6 +418,12 @@ public final class TextEdgesTest {
         fault(4, "a(1):-b(Y),X=Y^.");
         fault(4, "a(1):-b(Y),Y<X^.");
         fault(4, "a(1):-Z=Z^.");
+        for (char letter = 'A'; letter <= 'Z'; letter++) {
+            taken(1, "a(" + letter + "):-b(" + letter + "),~c(" + letter + ")," + letter + "=1.");
+            fault(4, "a(" + letter + ")^.");
+            fault(4, "a(1):-~c(" + letter + ")^.");
+            fault(4, "a(1):-" + letter + "=1^.");
+        }
         fault(4, "b(X):-c(X). a(X):-c(Y)^. ?");
         fault(1, "a(X)^");
         fault(1, "a(X):-b(Y)^?");
@@ -548,6 +554,9 @@ public final class TextEdgesTest {
         layersAre("a(1):-~b(1). b(1):-~c(1). c(1):-~d(1). d(1):-~e(1). e(1):-~f(1). f(1):-~g(1). g(1):-~h(1).", 7, 6, 5, 4, 3, 2, 1, 0);
         layersAre("h(1). g(#):-h(1). f(#):-g(1). e(#):-f(1). d(#):-e(1). c(#):-d(1). b(#):-c(1). a(#):-b(1).", 1, 2, 3, 4, 5, 6, 7, 8);
         layersAre("a(1):-b(1). b(1):-a(1). b(1):-~c(1). c(1):-d(1). d(1):-~e(1).", 2, 2, 1, 1, 0);
+        says("a CONDITION has no relation");
+        layersAre("a(X):-b(X),~c(X). c(1). b(X):-t(X),X<5.", 2, 1, 1, 0);
+        layersAre("a(X):-b(X),~c(X). c(1). b(#):-t(X),X<5.", 2, 1, 1, 0);
     }
 
     // ---- texts that do not fit
