@@ -1,4 +1,7 @@
-/** Each promise of the document by hand: ordinary inputs, the edges that it names, and wrong inputs. */
+/**
+ * The promises of the document, sentence by sentence up to its end: ordinary inputs, the edges that it names, and
+ * wrong inputs.
+ */
 public final class PromisesTest {
     private static final int NONE = -1, BAD = -2, FULL = -3, STATE = -4;
     private static final int LOW = Integer.MIN_VALUE, HIGH = Integer.MAX_VALUE;
@@ -6,6 +9,19 @@ public final class PromisesTest {
     private static final String PATHS =
         "p(X,Y):-e(X,Y). p(X,Y):-p(X,Z),e(Z,Y). u(X):-v(X),~p(1,X). n(X,#):-p(X,Y).";
     private static final Check CHECK = new Check();
+    private static Document document;
+
+    private interface Call {
+        int on(ViewRounds x);
+    }
+
+    private static void promise(int number, String name, String header) {
+        document.says("## Promise " + number + ": " + name + " `" + header + "`:");
+    }
+
+    private static void says(String words) {
+        document.says(words);
+    }
 
     private static void same(String call, long got, long due) {
         CHECK.same(call, got, due);
@@ -51,77 +67,142 @@ public final class PromisesTest {
         }
     }
 
+    /** Objects without rules, of each kind: new, after a fault, after a text that is full, after blanks. */
+    private static ViewRounds[] withoutRules() {
+        ViewRounds[] all = {new ViewRounds(), made(PATHS), made(PATHS), made(PATHS)};
+        for (int i = 1; i < all.length; i++) {
+            add(all[i], 1, 1, 2, 0);
+            CHECK.holds("batch", all[i].batch() > 0);
+            add(all[i], 1, 2, 3, 0);
+        }
+        same("a fault", Check.parse(all[1], "a(X)."), -14);
+        same("a full text", Check.parse(all[2], "v(1).v(2).v(3).v(4).v(5).v(6).v(7).p(X,Y):-v(X),v(Y)."), FULL);
+        same("blanks", Check.parse(all[3], " \n"), 0);
+        return all;
+    }
+
+    /** STATE, whether the arguments are right or not. */
+    private static void states(Call right, Call wrong) {
+        for (ViewRounds x : withoutRules()) {
+            same("without rules", right.on(x), STATE);
+            same("without rules, and wrong", wrong.on(x), STATE);
+        }
+    }
+
     private static void asksWithoutRules(ViewRounds x) {
         for (int what = 0; what < 6; what++) {
             same("told(" + what + ") without rules", x.told(what), 0);
         }
         same("relation", x.relation('a'), STATE);
-        same("of", x.of(99, 99), STATE);
-        same("change", x.change(-1, -1, -1, -1, 7), STATE);
+        same("of", x.of(0, 0), STATE);
+        same("change", x.change(1, 1, 1, 1, 1), STATE);
         same("batch", x.batch(), STATE);
         same("drop", x.drop(), STATE);
-        same("difference", x.difference(-1, 9), STATE);
+        same("difference", x.difference(0, 0), STATE);
         same("undo", x.undo(), STATE);
-        same("has", x.has(-1, -1, 0, 0), STATE);
-        same("row", x.row(-1, -1, -1), STATE);
-        same("derivations", x.derivations(-1, -1, 0, 0), STATE);
-        same("why", x.why(-1, -1, 0, 0, -1), STATE);
+        same("has", x.has(0, 1, 1, 1), STATE);
+        same("row", x.row(0, 0, 0), STATE);
+        same("derivations", x.derivations(0, 1, 1, 1), STATE);
+        same("why", x.why(0, 1, 1, 1, 0), STATE);
         same("anew", x.anew() ? 1 : 0, 0);
     }
 
     private static void promise1() {
+        promise(1, "A new object", "ViewRounds()");
+        says("No text, no rules.");
         ViewRounds x = new ViewRounds();
         asksWithoutRules(x);
         same("place", x.place(), NONE);
         same("ring", x.ring(0), NONE);
-        same("feed", x.feed('a', 1), 1);
-        same("NONE", ViewRounds.NONE, -1);
-        same("BAD", ViewRounds.BAD, -2);
-        same("FULL", ViewRounds.FULL, -3);
-        same("STATE", ViewRounds.STATE, -4);
+        same("the first byte of a text", x.feed('a', 1), 1);
+        same("a text of nothing", new ViewRounds().parse(), 0);
+        ViewRounds one = made("a(1).");
+        asksWithoutRules(new ViewRounds());
+        same("objects have nothing in common", one.told(0), 1);
     }
 
     private static void promise2() {
+        promise(2, "feed", "int feed(long bytes, int n)");
+        says("The n lowest bytes of a number, the lowest first, come behind the text: how many it has.");
         ViewRounds x = new ViewRounds();
-        int[] wrong = {0, 9, -1, LOW, HIGH};
-        for (int n : wrong) {
-            same("feed(1, " + n + ")", x.feed(1, n), BAD);
-        }
-        // bytes beyond the n lowest are not read, and the lowest comes first
         same("feed a(1)", x.feed(0x7f7f7f7f00000000L | 'a' | '(' << 8 | '1' << 16 | ')' << 24, 4), 4);
         same("feed .", x.feed(-1L << 8 | '.', 1), 5);
         same("parse", x.parse(), 1);
         same("relation", x.relation('a'), 0);
         same("has", x.has(0, 1, 0, 0), 1);
+        bytesInPieces();
+        same("bytes 255", x.feed(-1L, 8), 8);
+        same("parse of bytes 255", x.parse(), -11);
+        same("place", x.place(), 0);
+        says("BAD: n is not 1 .. 8; FULL: more than 600.");
+        int[] wrong = {0, 9, -1, LOW, HIGH};
+        for (int n : wrong) {
+            same("feed(1, " + n + ")", x.feed(1, n), BAD);
+        }
         for (int i = 1; i <= 74; i++) {
             same("feed", x.feed(0x2020202020202020L, 8), 8 * i);
         }
         same("feed to 599", x.feed(0x20202020202020L, 7), 599);
-        same("feed beyond 600", x.feed(0x2020, 2), FULL);
+        same("feed beyond 600", x.feed(0x3f3f, 2), FULL);
         same("BAD comes before FULL", x.feed(0x2020, 9), BAD);
         same("feed to 600", x.feed(' ', 1), 600);
-        same("feed to 601", x.feed(' ', 1), FULL);
-        same("parse of blanks", x.parse(), 0);
-        same("the text is empty then", x.feed(-1L, 8), 8);
-        same("parse of bytes 255", x.parse(), -11);
-        same("place", x.place(), 0);
+        same("feed to 601", x.feed('?', 1), FULL);
+        same("nothing of that came", x.parse(), 0);
+        same("the text is empty then", x.feed(' ', 1), 1);
+    }
+
+    /** One text in pieces of each length, with other bytes above those that count. */
+    private static void bytesInPieces() {
+        String text = "b(12,X):-c(X),~d(X,3),X<999. ";
+        for (int n = 1; n <= 8; n++) {
+            ViewRounds x = new ViewRounds();
+            for (int from = 0; from < text.length(); from += n) {
+                int size = Math.min(n, text.length() - from);
+                long bytes = 0x3f3f3f3f3f3f3f3fL;
+                for (int i = 0; i < size; i++) {
+                    bytes = bytes & ~(255L << 8 * i) | (long) text.charAt(from + i) << 8 * i;
+                }
+                same("feed", x.feed(bytes, size), from + size);
+            }
+            same("parse of pieces of " + n, x.parse(), 1);
+            add(x, 1, 7, 0, 0);
+            same("batch", x.batch(), 1);
+            same("b(12, 7)", x.has(0, 12, 7, 0), 1);
+        }
     }
 
     private static void promise3() {
-        parses("", 0);
-        parses(" \n ", 0);
+        promise(3, "parse", "int parse()");
+        says("The text (empty then) is read: how many rules, which are the rules from now on, in place of others;");
+        parses("a(1):-b(1).", 1);
         parses("c(5).", 1);
         parses("c ( 5 ) .\nd(X): -c(X) , X\n< 7,~ c ( 0\n) .", 2);
         parses("a(0,00,000). a(999,1,12).", 2);
         parses("a(#):-1<2.", 1);
         parses("a(X,#):-b(X),c(X),d(X),~e(X),X!3.", 1);
         parses("a(1):-b(A,B,C),b(D,E,F),b(A,B,C),A<B,~b(F,E,D).", 1);
-        parses("a(1).".repeat(16), 16);
         parses("a(X):-b(X),c(X),d(X).e(X):-f(X),g(X),h(X).", 2);
+        for (int count = 1; count <= 16; count++) {
+            parses("a(1).".repeat(count), count);
+        }
+        parsesInPlaceOfOthers();
+        says("TABLES are empty, VIEWS as they are then,");
+        viewsOfEmptyTables();
+        says("the BATCH under way is empty (with a FAULT and FULL, too), no BATCH was done");
+        parsesInABatch();
+        says("(FULL: they would not fit; there are no rules then).");
+        parsesThatAreFull();
+        says("Or -10 less a FAULT; there are no rules then.");
         wrongSigns();
         otherFaults();
-        parsesInPlaceOfOthers();
-        parsesThatAreFull();
+        says("(A text of blanks alone has 0 rules, that are none.)");
+        String[] blanks = {"", " ", "\n", " \n ", " ".repeat(600)};
+        for (String text : blanks) {
+            parses(text, 0);
+            ViewRounds x = made(PATHS);
+            same("parse", Check.parse(x, text), 0);
+            asksWithoutRules(x);
+        }
     }
 
     private static void wrongSigns() {
@@ -174,29 +255,64 @@ public final class PromisesTest {
 
     private static void parsesInPlaceOfOthers() {
         ViewRounds x = made(PATHS);
-        add(x, 1, 1, 2, 0);
-        x.batch();
-        add(x, 1, 2, 3, 0);
-        same("parse of the same rules", Check.parse(x, PATHS), 4);
-        rows(x, 1);
-        rows(x, 0);
-        add(x, 1, 3, 4, 0);
-        x.batch();
-        add(x, 1, 2, 3, 0);
         same("parse of other rules", Check.parse(x, "a(X):-b(X). a(7)."), 2);
-        same("changes", x.told(2), 0);
-        same("differences", x.told(3), 0);
-        same("no batch was done", x.undo(), NONE);
-        same("no difference", x.difference(0, 0), NONE);
-        same("relation", x.relation('p'), NONE);
-        rows(x, 0, 7);
-        rows(x, 1);
-        same("parse with a fault", Check.parse(x, "a"), -11);
-        asksWithoutRules(x);
-        same("parse", Check.parse(x, "a(X):-b(X)."), 1);
-        add(x, 1, 1, 0, 0);
-        same("parse of nothing", x.parse(), 0);
-        asksWithoutRules(x);
+        same("rules", x.told(0), 2);
+        same("relations", x.told(1), 2);
+        same("a relation of before", x.relation('p'), NONE);
+        same("a relation of now", x.relation('b'), 1);
+        same("the text is empty", x.parse(), 0);
+        same("the rules are gone", x.told(0), 0);
+        same("half a text", Check.feed(x, "a(1)"), 4);
+        same("is no rule", x.parse(), -11);
+        same("its other half alone", Check.parse(x, "."), -11);
+        same("at its first sign", x.place(), 0);
+    }
+
+    private static void viewsOfEmptyTables() {
+        ViewRounds x = made("a(7). b(X):-a(X),~c(X). d(#):-b(X). e(X):-c(X). f(#):-c(X). g(1):-~c(1).");
+        rows(x, x.relation('a'), 7);
+        rows(x, x.relation('b'), 7);
+        rows(x, x.relation('c'));
+        rows(x, x.relation('d'), 1);
+        rows(x, x.relation('e'));
+        rows(x, x.relation('f'));
+        rows(x, x.relation('g'), 1);
+        same("they are no differences", x.told(3), 0);
+        CHECK.holds("anew", x.anew());
+        ViewRounds again = made(PATHS);
+        add(again, 1, 1, 2, 0);
+        add(again, 3, 7, 0, 0);
+        same("batch", again.batch(), 3);
+        same("parse of the same rules", Check.parse(again, PATHS), 4);
+        for (int relation = 0; relation < 5; relation++) {
+            rows(again, relation);
+        }
+        same("a row of before", again.has(1, 1, 2, 0), 0);
+    }
+
+    private static void parsesInABatch() {
+        String[] texts = {PATHS, "a", "v(1).v(2).v(3).v(4).v(5).v(6).v(7).p(X,Y):-v(X),v(Y).", " "};
+        int[] answers = {4, -11, FULL, 0};
+        for (int i = 0; i < texts.length; i++) {
+            ViewRounds x = made(PATHS);
+            add(x, 1, 1, 2, 0);
+            same("batch", x.batch(), 2);
+            add(x, 1, 2, 3, 0);
+            same("parse", Check.parse(x, texts[i]), answers[i]);
+            if (i > 0) {
+                asksWithoutRules(x);
+                same("parse", Check.parse(x, PATHS), 4);
+            }
+            same("changes", x.told(2), 0);
+            same("nothing to drop", x.drop(), 0);
+            same("no differences", x.told(3), 0);
+            same("no difference", x.difference(0, 0), NONE);
+            same("nothing to take back", x.told(4), 0);
+            same("no batch was done", x.undo(), NONE);
+            same("nothing in the batch", x.batch(), 0);
+            rows(x, 0);
+            rows(x, 1);
+        }
     }
 
     private static void parsesThatAreFull() {
@@ -216,6 +332,8 @@ public final class PromisesTest {
     }
 
     private static void promise4() {
+        promise(4, "place", "int place()");
+        says("The PLACE of the FAULT of the latest parse(); NONE.");
         ViewRounds x = new ViewRounds();
         same("parse", Check.parse(x, "a(1)"), -11);
         same("place", x.place(), 4);
@@ -227,9 +345,15 @@ public final class PromisesTest {
         same("place", x.place(), 1);
         same("parse of nothing", x.parse(), 0);
         same("place", x.place(), NONE);
+        same("parse", Check.parse(x, "a(X)."), -14);
+        same("place", x.place(), 4);
+        same("parse of a text that is full", Check.parse(x, "v(1).v(2).v(3).v(4).v(5).v(6).v(7).p(X,Y):-v(X),v(Y)."), FULL);
+        same("that is no fault", x.place(), NONE);
     }
 
     private static void promise5() {
+        promise(5, "ring", "int ring(int k)");
+        says("The k-th relation's name (a .. z) of THE RING of the latest parse(), by numbers from the least on; NONE.");
         ringIs("w(X):-e(X,Y),~w(Y).", "w");
         ringIs("n(#):-n(X).", "n");
         ringIs("z(X):-t(X),y(X). y(X):-x(X). x(X):-t(X),~z(X). r(X):-z(X). s(X):-s(X).", "zyx");
@@ -242,6 +366,12 @@ public final class PromisesTest {
         ringIs("a(X):-b(X),c(X). c(X):-e(X),~c(X). b(X):-e(X),~b(X).", "b");
         ViewRounds x = made("p(X):-p(X),t(X).");
         same("no ring is refused", x.ring(0), NONE);
+        same("no parse, no ring", new ViewRounds().ring(0), NONE);
+        same("parse", Check.parse(x, "w(#):-w(X)."), -16);
+        Check.feed(x, "w");
+        same("it stays while a text comes", x.ring(0), 'w');
+        same("parse", Check.parse(x, "(1)."), 1);
+        same("a good text has none", x.ring(0), NONE);
     }
 
     private static void ringIs(String text, String names) {
@@ -259,6 +389,8 @@ public final class PromisesTest {
     }
 
     private static void promise6() {
+        promise(6, "relation", "int relation(int name)");
+        says("The relation of a name (a .. z); NONE.");
         ViewRounds x = made("z(A):-a(A),~m(A).");
         same("z", x.relation('z'), 0);
         same("a", x.relation('a'), 1);
@@ -267,19 +399,29 @@ public final class PromisesTest {
         for (int name : none) {
             same("relation(" + name + ")", x.relation(name), NONE);
         }
+        ViewRounds all = made("h(X):-g(X),f(X),e(X). d(X):-c(X),b(X),a(X).");
+        for (int name = 'a'; name <= 'z'; name++) {
+            same("relation(" + name + ")", all.relation(name), name <= 'h' ? 'h' - name : NONE);
+        }
+        says("STATE.");
+        states(y -> y.relation('p'), y -> y.relation('?'));
     }
 
     private static void promise7() {
+        promise(7, "of", "int of(int relation, int what)");
+        says("Of a relation: what = 0 whether it is a VIEW (1, 0), 1 how many TERMS, 2 its LAYER, 3 how many ROWS,"
+            + " 4 whether it lies on a ring (through rules).");
         ViewRounds x = made(PATHS);
-        int[][] due = {{1, 2, 1, 0, 1}, {0, 2, 0, 0, 0}, {1, 1, 2, 0, 0}, {0, 1, 0, 0, 0}, {1, 2, 2, 0, 0}};
+        add(x, 1, 1, 2, 0);
+        add(x, 1, 1, 2, 0);
+        add(x, 1, 2, 3, 0);
+        add(x, 3, 7, 0, 0);
+        same("batch", x.batch(), 6);
+        int[][] due = {{1, 2, 1, 3, 1}, {0, 2, 0, 2, 0}, {1, 1, 2, 1, 0}, {0, 1, 0, 1, 0}, {1, 2, 2, 2, 0}};
         for (int relation = 0; relation < 5; relation++) {
             for (int what = 0; what < 5; what++) {
                 same("of(" + relation + ", " + what + ")", x.of(relation, what), due[relation][what]);
             }
-        }
-        int[][] bad = {{-1, 0}, {5, 0}, {8, 0}, {LOW, 0}, {HIGH, 0}, {0, -1}, {0, 5}, {0, LOW}, {0, HIGH}};
-        for (int[] pair : bad) {
-            same("of(" + pair[0] + ", " + pair[1] + ")", x.of(pair[0], pair[1]), BAD);
         }
         layers("a(X):-b(X),~c(X). c(X):-d(X),~e(X). e(X):-g(X),~f(X). f(1). h(X):-a(X). a(X):-h(X).", "abcdefgh", 4, 0, 3, 0, 2, 1, 0, 4);
         layers("a(#):-b(X),~c(X). b(1). c(#):-d(X). d(2). e(X):-a(X).", "abcde", 3, 1, 2, 1, 3);
@@ -287,6 +429,15 @@ public final class PromisesTest {
         ViewRounds rings = made("a(X):-b(X). b(X):-c(X). c(X):-a(X). d(X):-a(X). c(X):-t(X).");
         for (int i = 0; i < 5; i++) {
             same("ring at " + i, rings.of(i, 4), i < 3 ? 1 : 0);
+        }
+        ViewRounds three = made("w(Z,Y,X):-t(X,Y,Z).");
+        same("three terms", three.of(0, 1), 3);
+        same("three terms", three.of(1, 1), 3);
+        says("STATE; BAD.");
+        states(y -> y.of(0, 0), y -> y.of(-1, 9));
+        int[][] bad = {{-1, 0}, {5, 0}, {8, 0}, {LOW, 0}, {HIGH, 0}, {0, -1}, {0, 5}, {0, LOW}, {0, HIGH}};
+        for (int[] pair : bad) {
+            same("of(" + pair[0] + ", " + pair[1] + ")", x.of(pair[0], pair[1]), BAD);
         }
     }
 
@@ -298,6 +449,23 @@ public final class PromisesTest {
     }
 
     private static void promise8() {
+        promise(8, "change", "int change(int table, int a, int b, int c, int sign)");
+        says("A change of a TABLE comes to the BATCH: sign 1 or -1; values beyond its TERMS are not looked at: how many are in it.");
+        ViewRounds y = made("a(X):-b(X,Y,Z),t(X).");
+        same("one more", y.change(1, 3, 4, 5, 1), 1);
+        same("one more, values beyond", y.change(2, 3, -1, 1000, 1), 2);
+        same("one less, values beyond", y.change(2, 4, LOW, HIGH, -1), 3);
+        same("one more of that", y.change(2, 4, 0, 0, 1), 4);
+        same("nothing is changed yet", y.of(2, 3), 0);
+        same("batch", y.batch(), 1);
+        same("b(3, 4, 5)", y.has(1, 3, 4, 5), 1);
+        same("t(3)", y.has(2, 3, 0, 0), 1);
+        same("t(4)", y.has(2, 4, 0, 0), 0);
+        same("one less", y.change(1, 3, 4, 5, -1), 1);
+        same("batch", y.batch(), 1);
+        same("b(3, 4, 5)", y.has(1, 3, 4, 5), 0);
+        says("STATE; BAD (no TABLE, sign, a value not 0 .. 999); FULL: there are 60.");
+        states(z -> z.change(1, 1, 2, 0, 1), z -> z.change(-1, -1, -1, -1, 7));
         ViewRounds x = made("a(X):-b(X,Y,Z),t(X).");
         int[][] bad = {{0, 1, 0, 0, 1}, {-1, 1, 0, 0, 1}, {3, 1, 0, 0, 1}, {LOW, 0, 0, 0, 1}, {HIGH, 0, 0, 0, 1}, {1, 0, 0, 0, 0},
             {1, 0, 0, 0, 2}, {1, 0, 0, 0, -2}, {1, 0, 0, 0, LOW}, {1, -1, 0, 0, 1}, {1, 1000, 0, 0, 1}, {1, 0, -1, 0, 1}, {1, 0, 1000, 0, 1},
@@ -317,9 +485,14 @@ public final class PromisesTest {
     }
 
     private static void promise9() {
+        promise(9, "batch", "int batch()");
+        says("The BATCH, with changes or without, is done (it is empty then): how many DIFFERENCES.");
+        batchesOfViews();
         ViewRounds x = made("a(X):-b(X).");
         same("a batch without changes", x.batch(), 0);
         same("it was done", x.told(4), 1);
+        says("STATE; BAD: a COUNT would be below 0, or above 9; FULL: a TABLE or a VIEW would be.");
+        states(ViewRounds::batch, ViewRounds::batch);
         for (int i = 0; i < 9; i++) {
             add(x, 1, 5, 0, 0);
         }
@@ -340,7 +513,26 @@ public final class PromisesTest {
         x.change(1, 7, 0, 0, -1);
         same("below nothing", x.batch(), BAD);
         batchesThatAreFull();
-        batchesOfViews();
+        says("With BAD and FULL it is empty, too.");
+        ViewRounds y = made("a(X):-b(X).");
+        add(y, 1, 1, 0, 0);
+        y.change(1, 7, 0, 0, -1);
+        same("below nothing", y.batch(), BAD);
+        same("changes", y.told(2), 0);
+        same("nothing to drop", y.drop(), 0);
+        same("nothing is left of it", y.batch(), 0);
+        rows(y, 1);
+        for (int i = 0; i < 41; i++) {
+            add(y, 1, i, 0, 0);
+        }
+        same("too many rows", y.batch(), FULL);
+        same("changes", y.told(2), 0);
+        same("nothing to drop", y.drop(), 0);
+        same("nothing is left of it", y.batch(), 0);
+        rows(y, 1);
+        same("the first change of another one", y.change(1, 5, 0, 0, 1), 1);
+        same("batch", y.batch(), 1);
+        rows(y, 1, 5);
     }
 
     private static void batchesThatAreFull() {
@@ -512,6 +704,8 @@ public final class PromisesTest {
     }
 
     private static void promise10() {
+        promise(10, "drop", "int drop()");
+        says("The BATCH is empty: how many changes it had.");
         ViewRounds x = made("a(X):-b(X).");
         same("nothing to drop", x.drop(), 0);
         add(x, 1, 1, 0, 0);
@@ -520,9 +714,19 @@ public final class PromisesTest {
         same("the batch is empty", x.told(2), 0);
         same("it changes nothing", x.batch(), 0);
         rows(x, 0);
+        for (int i = 0; i < 60; i++) {
+            add(x, 1, i, 0, 0);
+        }
+        same("sixty dropped", x.drop(), 60);
+        same("there is room again", x.change(1, 1, 0, 0, 1), 1);
+        says("STATE.");
+        states(ViewRounds::drop, ViewRounds::drop);
     }
 
     private static void promise11() {
+        promise(11, "difference", "int difference(int k, int what)");
+        says("Of DIFFERENCE k of the latest BATCH that was done, or taken back: what = 0 the relation,"
+            + " 1, 2, 3 its values (0 beyond its TERMS), 4 the sign.");
         ViewRounds x = made("b(Y,X):-t(X,Y),X<Y. a(X,Y,Z):-t(X,Y),t(Y,Z). s(X):-t(X,X).");
         same("none yet", x.difference(0, 0), NONE);
         add(x, 1, 7, 8, 0);
@@ -532,7 +736,10 @@ public final class PromisesTest {
         isDifference(x, 1, 2, 7, 8, 8, 1);
         isDifference(x, 2, 2, 8, 8, 8, 1);
         isDifference(x, 3, 3, 8, 0, 0, 1);
-        int[] none = {-1, 4, LOW, HIGH, 640};
+        differencesOfLaterBatches(x);
+        says("STATE; BAD (what); NONE.");
+        states(y -> y.difference(0, 0), y -> y.difference(-1, 9));
+        int[] none = {-1, 5, LOW, HIGH, 640};
         for (int k : none) {
             same("difference(" + k + ", 0)", x.difference(k, 0), NONE);
             same("BAD comes before NONE", x.difference(k, 5), BAD);
@@ -541,6 +748,10 @@ public final class PromisesTest {
         for (int what : bad) {
             same("difference(0, " + what + ")", x.difference(0, what), BAD);
         }
+        same("none of a new one", made("a(1).").difference(0, 0), NONE);
+    }
+
+    private static void differencesOfLaterBatches(ViewRounds x) {
         add(x, 1, 8, 9, 0);
         x.change(1, 8, 8, 0, -1);
         same("batch", x.batch(), 5);
@@ -559,8 +770,38 @@ public final class PromisesTest {
     }
 
     private static void promise12() {
+        promise(12, "undo", "int undo()");
+        says("The latest BATCH that was done is taken back (up to six, the latest first): how many DIFFERENCES that makes.");
+        takenBack();
+        says("The BATCH under way stays.");
         ViewRounds x = made("a(X):-b(X).");
-        same("there is none", x.undo(), NONE);
+        add(x, 1, 1, 0, 0);
+        same("batch", x.batch(), 1);
+        add(x, 1, 2, 0, 0);
+        x.change(1, 1, 0, 0, -1);
+        same("undo", x.undo(), 1);
+        same("changes", x.told(2), 2);
+        same("its sums are wrong now", x.batch(), BAD);
+        add(x, 1, 1, 0, 0);
+        same("batch", x.batch(), 1);
+        add(x, 1, 2, 0, 0);
+        same("undo", x.undo(), 1);
+        same("the batch that stayed", x.batch(), 1);
+        rows(x, 0, 2);
+        says("STATE; NONE: there is none.");
+        states(ViewRounds::undo, ViewRounds::undo);
+        ViewRounds none = made("a(X):-b(X).");
+        same("none was done", none.undo(), NONE);
+        none.change(1, 1, 0, 0, -1);
+        same("a refused one", none.batch(), BAD);
+        same("is none", none.undo(), NONE);
+        same("one without changes", none.batch(), 0);
+        same("is one", none.undo(), 0);
+        same("and none then", none.undo(), NONE);
+    }
+
+    private static void takenBack() {
+        ViewRounds x = made("a(X):-b(X).");
         for (int i = 0; i < 8; i++) {
             add(x, 1, i, 0, 0);
             add(x, 1, 50, 0, 0);
@@ -598,6 +839,18 @@ public final class PromisesTest {
     }
 
     private static void promise13() {
+        promise(13, "has", "int has(int relation, int a, int b, int c)");
+        says("The COUNT of a ROW of a TABLE (0: it is not there); of a VIEW 1, 0.");
+        ViewRounds y = made("a(X):-b(X). a(X):-b(X),b(X).");
+        for (int count = 1; count <= 9; count++) {
+            add(y, 1, 4, 0, 0);
+            y.batch();
+            same("the count", y.has(1, 4, 0, 0), count);
+            same("of the view", y.has(0, 4, 0, 0), 1);
+        }
+        same("not there", y.has(1, 5, 0, 0), 0);
+        same("not there", y.has(0, 5, 0, 0), 0);
+        says("Values beyond its TERMS are not looked at, here and below.");
         ViewRounds x = made(PATHS);
         add(x, 1, 1, 2, 0);
         add(x, 1, 1, 2, 77);
@@ -611,6 +864,13 @@ public final class PromisesTest {
         same("v(999)", x.has(3, 999, -1, LOW), 1);
         same("v(0)", x.has(3, 0, 1000, HIGH), 1);
         same("n(1, 1)", x.has(4, 1, 1, 0), 1);
+        same("derivations of p(1, 2)", x.derivations(0, 1, 2, LOW), 1);
+        same("derivations of n(1, 1)", x.derivations(4, 1, 1, 1000), 1);
+        same("derivations of u(0)", x.derivations(2, 0, -1, 1000), 1);
+        same("why of p(1, 2)", x.why(0, 1, 2, HIGH, 2), 1);
+        same("why of u(999)", x.why(2, 999, 1000, -1, 2), 999);
+        says("STATE; BAD (relation, value).");
+        states(z -> z.has(0, 1, 2, 0), z -> z.has(-1, -1, 0, 0));
         int[][] bad = {{-1, 0, 0, 0}, {5, 0, 0, 0}, {LOW, 0, 0, 0}, {HIGH, 0, 0, 0}, {0, -1, 0, 0}, {0, 1000, 0, 0}, {0, 0, -1, 0},
             {1, 0, 1000, 0}, {3, -1, 0, 0}, {3, HIGH, 0, 0}};
         for (int[] call : bad) {
@@ -624,6 +884,8 @@ public final class PromisesTest {
     }
 
     private static void promise14() {
+        promise(14, "row", "int row(int relation, int k, int what)");
+        says("Of the k-th ROW of a relation, rising: what = 0, 1, 2 its values, 3 its COUNT (of a VIEW 1).");
         ViewRounds x = made("a(X,Y,Z):-t(X,Y,Z).");
         int[][] due = {{0, 0, 0, 1}, {0, 0, 1, 1}, {0, 1, 0, 2}, {0, 999, 999, 1}, {1, 0, 0, 1}, {10, 2, 3, 1}, {999, 999, 999, 1}};
         for (int i = due.length - 1; i >= 0; i--) {
@@ -636,17 +898,6 @@ public final class PromisesTest {
                 same("row(1, " + k + ", " + what + ")", x.row(1, k, what), due[k][what]);
                 same("row(0, " + k + ", " + what + ")", x.row(0, k, what), what == 3 ? 1 : due[k][what]);
             }
-        }
-        int[] none = {-1, 7, 40, 100, LOW, HIGH};
-        for (int k : none) {
-            same("row(1, " + k + ", 0)", x.row(1, k, 0), NONE);
-            same("BAD comes before NONE", x.row(1, k, 4), BAD);
-            same("BAD comes before NONE", x.row(2, k, 0), BAD);
-        }
-        int[] bad = {-1, 4, LOW, HIGH};
-        for (int outside : bad) {
-            same("row(1, 0, " + outside + ")", x.row(1, 0, outside), BAD);
-            same("row(" + outside + ", 0, 0)", x.row(outside, 0, 0), BAD);
         }
         ViewRounds often = made("a(X):-t(X,Y). a(X):-t(X,Y),t(X,Z). a(X):-a(X).");
         add(often, 1, 4, 1, 0);
@@ -661,9 +912,24 @@ public final class PromisesTest {
         same("its value", small.row(0, 0, 0), 5);
         same("a value beyond its terms", small.row(0, 0, 1), 0);
         same("a value beyond its terms", small.row(0, 0, 2), 0);
+        says("STATE; BAD (relation, what); NONE.");
+        states(y -> y.row(0, 0, 0), y -> y.row(-1, -1, -1));
+        int[] none = {-1, 7, 40, 100, LOW, HIGH};
+        for (int k : none) {
+            same("row(1, " + k + ", 0)", x.row(1, k, 0), NONE);
+            same("BAD comes before NONE", x.row(1, k, 4), BAD);
+            same("BAD comes before NONE", x.row(2, k, 0), BAD);
+        }
+        int[] bad = {-1, 4, LOW, HIGH};
+        for (int outside : bad) {
+            same("row(1, 0, " + outside + ")", x.row(1, 0, outside), BAD);
+            same("row(" + outside + ", 0, 0)", x.row(outside, 0, 0), BAD);
+        }
     }
 
     private static void promise15() {
+        promise(15, "derivations", "int derivations(int view, int a, int b, int c)");
+        says("How many DERIVATIONS a ROW of a VIEW has, as all is now (with # : that number, if the ROW is there).");
         ViewRounds x = made("a(X):-t(X,Y). a(X):-t(X,Y),t(X,Z),Y<Z. a(3). n(X,#):-t(X,Y). a(X):-a(X).");
         for (int i = 0; i < 4; i++) {
             add(x, 1, 3, i, 0);
@@ -677,10 +943,6 @@ public final class PromisesTest {
         same("n(3, 4)", x.derivations(2, 3, 4, -1), 4);
         same("n(3, 3)", x.derivations(2, 3, 3, 0), 0);
         same("n(4, 4)", x.derivations(2, 4, 4, 0), 0);
-        int[][] bad = {{1, 3, 0, 0}, {-1, 3, 0, 0}, {3, 3, 0, 0}, {LOW, 0, 0, 0}, {HIGH, 0, 0, 0}, {0, -1, 0, 0}, {0, 1000, 0, 0}, {2, 3, 1000, 0}};
-        for (int[] call : bad) {
-            same("bad derivations", x.derivations(call[0], call[1], call[2], call[3]), BAD);
-        }
         ViewRounds zero = made("a(0). n(X,#):-a(X).");
         same("a(0)", zero.derivations(0, 0, 0, 0), 1);
         same("why of a(0)", zero.why(0, 0, 0, 0, 0), 0);
@@ -692,9 +954,26 @@ public final class PromisesTest {
         }
         same("batch", many.batch(), 1);
         same("all triples", many.derivations(0, 1, 0, 0), 64000);
+        add(x, 1, 3, 4, 0);
+        same("a change that is not done", x.derivations(0, 3, 0, 0), 12);
+        same("batch", x.batch(), 2);
+        same("as all is now", x.derivations(0, 3, 0, 0), 5 + 10 + 1 + 1);
+        same("as all is now", x.derivations(2, 3, 5, 0), 5);
+        same("and no more", x.derivations(2, 3, 4, 0), 0);
+        same("undo", x.undo(), 2);
+        same("as all is now", x.derivations(0, 3, 0, 0), 12);
+        says("STATE; BAD (no VIEW, value).");
+        states(y -> y.derivations(0, 1, 2, 0), y -> y.derivations(-1, -1, 0, 0));
+        int[][] bad = {{1, 3, 0, 0}, {-1, 3, 0, 0}, {3, 3, 0, 0}, {LOW, 0, 0, 0}, {HIGH, 0, 0, 0}, {0, -1, 0, 0}, {0, 1000, 0, 0}, {2, 3, 1000, 0}};
+        for (int[] call : bad) {
+            same("bad derivations", x.derivations(call[0], call[1], call[2], call[3]), BAD);
+        }
     }
 
     private static void promise16() {
+        promise(16, "why", "int why(int view, int a, int b, int c, int what)");
+        says("Of the least DERIVATION of a ROW of a VIEW without # (the rule first, then the values, variables from A on):"
+            + " what = 0 its rule (from 0), 1 how many variables it has, 2 + i the value of the i-th of these from A on.");
         ViewRounds x = made("a(X):-t(X,Z),t(C,Z),C!X. a(X):-t(X,Y). n(#):-t(X,Y). a(8):-~t(1,1). b(Z,A):-t(A,Z),t(Z,Q).");
         add(x, 1, 5, 7, 0);
         add(x, 1, 6, 7, 0);
@@ -710,6 +989,14 @@ public final class PromisesTest {
         whyIs(x, 0, 8, 0, 3, 0);
         whyIs(x, 3, 9, 4, 4, 3, 4, 7, 9);
         whyIs(x, 0, 7, 0);
+        ViewRounds six = made("a(F):-t(A,B,C),t(D,E,F).");
+        add(six, 1, 1, 2, 3);
+        add(six, 1, 4, 5, 6);
+        six.batch();
+        whyIs(six, 0, 6, 0, 0, 6, 1, 2, 3, 4, 5, 6);
+        leastOfSeveral();
+        says("STATE; BAD (no VIEW, one with #, value, what below 0 or above 7); NONE: there is no DERIVATION, no such variable.");
+        states(y -> y.why(0, 1, 2, 0, 0), y -> y.why(-1, -1, 0, 0, -1));
         int[] views = {1, 2, 4, -1, LOW, HIGH};
         for (int view : views) {
             same("why of " + view, x.why(view, 6, 0, 0, 0), BAD);
@@ -722,12 +1009,6 @@ public final class PromisesTest {
         same("a value outside", x.why(0, 1000, 0, 0, 0), BAD);
         same("a value outside", x.why(3, 0, -1, 0, 0), BAD);
         same("a value beyond", x.why(0, 6, -1, 1000, 0), 0);
-        ViewRounds six = made("a(F):-t(A,B,C),t(D,E,F).");
-        add(six, 1, 1, 2, 3);
-        add(six, 1, 4, 5, 6);
-        six.batch();
-        whyIs(six, 0, 6, 0, 0, 6, 1, 2, 3, 4, 5, 6);
-        leastOfSeveral();
     }
 
     private static void leastOfSeveral() {
@@ -755,6 +1036,8 @@ public final class PromisesTest {
     }
 
     private static void promise17() {
+        promise(17, "anew", "boolean anew()");
+        says("THE THEOREM: whether VIEWS are as they are worked from nothing.");
         ViewRounds x = made(PATHS);
         CHECK.holds("anew with nothing", x.anew());
         for (int i = 0; i < 6; i++) {
@@ -775,9 +1058,16 @@ public final class PromisesTest {
         same("it changes nothing", x.of(0, 3), 36);
         same("nor the batch", x.told(2), 1);
         same("nor the differences", x.told(3), 33);
+        says("STATE: false.");
+        for (ViewRounds none : withoutRules()) {
+            CHECK.holds("not without rules", !none.anew());
+        }
     }
 
     private static void promise18() {
+        promise(18, "told", "int told(int what)");
+        says("What = 0 rules, 1 relations, 2 changes in the BATCH, 3 DIFFERENCES of the latest, 4 BATCHES that can be taken back,"
+            + " 5 the greatest LAYER.");
         ViewRounds x = made(PATHS);
         toldIs(x, 4, 5, 0, 0, 0, 2);
         add(x, 1, 1, 2, 0);
@@ -792,21 +1082,38 @@ public final class PromisesTest {
         toldIs(x, 4, 5, 0, 2, 0, 2);
         Check.parse(x, "a(1).");
         toldIs(x, 1, 1, 0, 0, 0, 1);
-        Check.parse(x, "a(1)");
-        toldIs(x, 0, 0, 0, 0, 0, 0);
+        says("(All 0 without rules.)");
+        for (ViewRounds none : withoutRules()) {
+            toldIs(none, 0, 0, 0, 0, 0, 0);
+        }
+        says("BAD.");
+        toldOutside(x);
     }
 
     private static void toldIs(ViewRounds x, int... due) {
         for (int what = 0; what < 6; what++) {
             same("told(" + what + ")", x.told(what), due[what]);
         }
+        toldOutside(x);
+    }
+
+    private static void toldOutside(ViewRounds x) {
         int[] bad = {-1, 6, LOW, HIGH};
         for (int what : bad) {
             same("told(" + what + ")", x.told(what), BAD);
         }
     }
 
-    public static void main(String[] args) {
+    private static void notPromised() {
+        says("## Not promised How the state is held inside the object is free, as are the speed of each call, the text of toString"
+            + " and the behaviour of equals and hashCode. Use of one object from several threads at once is not promised to be safe."
+            + " Nothing is promised beyond the answers and state changes described above, and nothing about an object after its"
+            + " 512th call.");
+        document.ends();
+    }
+
+    public static void main(String[] args) throws Exception {
+        document = new Document(CHECK, "## Promise 1:", "");
         promise1();
         promise2();
         promise3();
@@ -825,6 +1132,7 @@ public final class PromisesTest {
         promise16();
         promise17();
         promise18();
+        notPromised();
         CHECK.finish();
     }
 }
