@@ -948,6 +948,17 @@ public final class PromisesTest {
         same("why of a(0)", zero.why(0, 0, 0, 0, 0), 0);
         same("n(0, 0)", zero.derivations(1, 0, 0, 0), 0);
         same("n(0, 1)", zero.derivations(1, 0, 1, 0), 1);
+        ViewRounds several = made("n(7,#):-t(X). m(8,#):-t(X),t(Y). k(9,#):-t(X),t(Y),t(Z).");
+        add(several, 1, 1, 0, 0);
+        add(several, 1, 2, 0, 0);
+        same("batch", several.batch(), 3);
+        int[] numbers = {2, 0, 4, 8};
+        for (int view = 0; view < numbers.length; view++) {
+            int first = view == 0 ? 7 : 6 + view;
+            same("number of " + view, several.derivations(view, first, numbers[view], 0), view == 1 ? BAD : numbers[view]);
+            same("no such number of " + view, several.derivations(view, first, 3, 0), view == 1 ? BAD : 0);
+            same("why of " + view, several.why(view, first, numbers[view], 0, 0), BAD);
+        }
         ViewRounds many = made("a(1):-t(X),t(Y),t(Z).");
         for (int i = 0; i < 40; i++) {
             add(many, 1, i, 0, 0);

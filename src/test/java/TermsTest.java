@@ -403,6 +403,14 @@ public final class TermsTest {
         fault(4, "a(1):-b(Y),X<Y^.");
         fault(4, "a(1):-b(Y),Y!X^.");
         fault(4, "a(X,#):-b(Y)^.");
+        fault(4, "a(X):-b(Y),Y=1,~b(Y)^.");
+        fault(4, "a(1):-~b(X),b(Y),Y=1^.");
+        fault(4, "a(1):-X=1,~b(Y),b(Y)^.");
+        for (char letter : VARIABLES.toCharArray()) {
+            fault(4, "a(" + letter + ")^.");
+            fault(4, "a(1):-~b(" + letter + ")^.");
+            fault(4, "a(1):-1!" + letter + "^.");
+        }
         says("5 a rule with # has no LITERALS, or its HEAD has another rule (at the point of the one that makes it so).");
         taken(2, "a(#):-b(X). c(#):-a(X).");
         fault(5, "a(#)^.");
@@ -664,6 +672,7 @@ public final class TermsTest {
         batch(order, "-t 2 3 10, t 2 3 9, -t 10 2 3, t 11 2 3",
             "+z 2 3 9, -z 2 3 10, -z 10 2 3, +z 11 2 3, -b 3 10, +b 3 11, +b 9 2, -b 10 2");
         batch(order, "t 2 3 9, -t 2 3 2, t 2 3 2", "");
+        manyDifferences();
         says("No relation has more than 40 ROWS, no # is above 999, or it is FULL.");
         ViewRounds rows = taken(3, "a(X,Y):-b(X),c(Y). n(#):-b(X),d(Y). m(X,Y,#):-b(X),c(Y).");
         Story.batch(rows, "b 1, b 2, b 3, b 4, b 5, c 1, c 2, c 3, c 4, c 5, c 6, c 7, c 8");
@@ -674,6 +683,26 @@ public final class TermsTest {
         same("40 rows still", rows.of(0, 3), 40);
         fullTables();
         fullNumbers();
+    }
+
+    /** Each of six views loses its 40 rows and gets as many others. */
+    private static void manyDifferences() {
+        ViewRounds x = taken(6, "a(X,Y):-s(X),t(Y).b(X,Y):-a(X,Y).c(X,Y):-b(X,Y).d(X,Y):-c(X,Y).e(X,Y):-d(X,Y).f(X,Y):-a(X,Y),e(X,Y).");
+        Story.changes(x, "s 0, s 1, s 2, s 3, s 4, t 0, t 1, t 2, t 3, t 4, t 5, t 6, t 7");
+        same("40 come in each", x.batch(), 240);
+        for (int i = 0; i < 8; i++) {
+            Story.changes(x, "-t " + i + ", t " + (8 + i));
+        }
+        same("40 go and 40 come in each", x.batch(), 480);
+        String names = "abcdef";
+        for (int k = 0; k < 480; k++) {
+            int second = k % 16;
+            same("relation of " + k, x.difference(k, 0), x.relation(names.charAt(k / 80)));
+            same("first value of " + k, x.difference(k, 1), k % 80 / 16);
+            same("second value of " + k, x.difference(k, 2), second);
+            same("sign of " + k, x.difference(k, 4), second < 8 ? -1 : 1);
+        }
+        same("none behind them", x.difference(480, 0), NONE);
     }
 
     private static void fullTables() {
